@@ -23,9 +23,7 @@ public final class SpreadRows {
     private static final int TONES = 4;
     private static final int DATA_BITS = 14;
 
-    private final Row tape = new Row(TAPE_MOST);
-    private final Text text = new Text(tape);
-    private final Maker maker = new Maker(text);
+    private final Maker maker = new Maker();
     private final Signal incoming = new Signal();
     private final Signal[] slots = new Signal[SLOTS_MOST];
     private final Kinship kinship = new Kinship();
@@ -33,7 +31,6 @@ public final class SpreadRows {
     private final Receiver receiver = new Receiver();
     private Told told = new Told();
     private Told spare = new Told();
-    private int tapeLength = 0;
     private int faultPlace = NONE;
     private int heldSlots = 0;
 
@@ -46,41 +43,30 @@ public final class SpreadRows {
     // ---- the tape and its text
 
     public int feed(int a, int b, int c, int d, int e) {
-        if (tapeLength + 20 > TAPE_MOST) {
+        Text text = maker.text;
+        if (text.length + 20 > TAPE_MOST) {
             return NONE;
         }
-        fourBytes(a);
-        fourBytes(b);
-        fourBytes(c);
-        fourBytes(d);
-        fourBytes(e);
-        return tapeLength;
-    }
-
-    private void fourBytes(int four) {
-        for (int shift = 24; shift >= 0; shift -= 8) {
-            tape.put(tapeLength, (four >> shift) & 255);
-            tapeLength++;
-        }
+        text.append(a);
+        text.append(b);
+        text.append(c);
+        text.append(d);
+        text.append(e);
+        return text.length;
     }
 
     public int back(int n) {
-        if (n < 0 || n > tapeLength) {
+        Text text = maker.text;
+        if (n < 0 || n > text.length) {
             return NONE;
         }
-        tapeLength -= n;
-        return tapeLength;
+        text.length -= n;
+        return text.length;
     }
 
     public int read() {
-        int fault = text.cut(tapeLength);
-        int where = text.faultPlace;
-        tapeLength = 0;
-        if (fault == 0) {
-            fault = maker.make(spare);
-            where = maker.faultPlace;
-        }
-        faultPlace = fault == 0 ? NONE : where;
+        int fault = maker.make(spare);
+        faultPlace = maker.faultPlace;
         if (fault == 0) {
             Told ahead = told;
             told = spare;
@@ -385,10 +371,10 @@ public final class SpreadRows {
 
     public int follows(int sender, int m) {
         Sender one = told.senderAt(sender);
-        if (one == null || m < 0 || m > 40) {
+        Code row = one == null ? null : one.code;
+        if (row == null || m < 0 || m > 40) {
             return NONE;
         }
-        Code row = one.code;
         int delay = one.delay;
         for (int period = 0; period < m; period++) {
             delay = search.loopStep(row, delay, one.tone, incoming, period * row.length);
@@ -509,20 +495,26 @@ public final class SpreadRows {
     // ---- what is kept
 
     public boolean hold(int slot) {
-        if (slot < 0 || slot >= slots.length) {
+        Signal kept = slotAt(slot);
+        if (kept == null) {
             return false;
         }
-        slots[slot].takeOver(incoming);
+        kept.takeOver(incoming);
         heldSlots |= 1 << slot;
         return true;
     }
 
     public boolean restore(int slot) {
-        if (slot < 0 || slot >= slots.length || (heldSlots >> slot & 1) == 0) {
+        Signal kept = slotAt(slot);
+        if (kept == null || (heldSlots >> slot & 1) == 0) {
             return false;
         }
-        incoming.takeOver(slots[slot]);
+        incoming.takeOver(kept);
         return true;
+    }
+
+    private Signal slotAt(int slot) {
+        return slot >= 0 && slot < slots.length ? slots[slot] : null;
     }
 
     public int count(int what) {
@@ -533,7 +525,7 @@ public final class SpreadRows {
             case 3: return told.echoCount;
             case 4: return told.jamCount;
             case 5: return told.samples;
-            case 6: return tapeLength;
+            case 6: return maker.text.length;
             case 7: return Integer.bitCount(heldSlots);
             case 8: return told.noiseMost;
             default: return countOfOne(what);
@@ -802,7 +794,7 @@ public final class SpreadRows {
     private static final class Sender {
         private final Row later = new Row(ECHOES_MOST);
         private final Row loud = new Row(ECHOES_MOST);
-        private Code code;
+        private Code code = null;
         private int echoes = 0;
         private int amplitude = 1;
         private int delay = 0;
@@ -810,23 +802,23 @@ public final class SpreadRows {
         private int data = 0;
         private int drift = 0;
 
-        Sender(Code first) {
-            code = first;
-        }
-
         void layEcho(int samplesLater, int echoAmplitude) {
             later.put(echoes, samplesLater);
             loud.put(echoes, echoAmplitude);
             echoes++;
         }
 
+        private int length() {
+            return code == null ? 1 : code.length;
+        }
+
         int delayAt(int i) {
-            return delay + (int) quotient(i, (long) drift * code.length);
+            return delay + (int) quotient(i, (long) drift * length());
         }
 
         int periodAt(int i) {
             int gone = i - delayAt(i);
-            return gone < 0 ? NONE : (int) quotient(gone, code.length);
+            return gone < 0 ? NONE : (int) quotient(gone, length());
         }
 
         /** With each sample the PERIOD stays or becomes the next one, so the last sample's tells how many. */
@@ -841,7 +833,7 @@ public final class SpreadRows {
         /** The CHIP with its turn's sign, DATA not looked at; 0 where there is no WAVE. */
         int signAt(int i) {
             int gone = i - delayAt(i);
-            if (gone < 0) {
+            if (gone < 0 || code == null) {
                 return 0;
             }
             int chip = code.chipRoundAt(gone);
@@ -886,7 +878,7 @@ public final class SpreadRows {
                 hops[i] = new Hop();
             }
             for (int i = 0; i < senders.length; i++) {
-                senders[i] = new Sender(codes[0]);
+                senders[i] = new Sender();
             }
         }
 
@@ -937,19 +929,20 @@ public final class SpreadRows {
         }
 
         boolean isCrowded(int set, int slot) {
-            int taken = 0;
-            for (int i = 0; i < hopCount && i < hops.length; i++) {
-                int channel = (set >> i & 1) == 1 ? 1 << hops[i].channelAt(slot) : 0;
-                if ((taken & channel) != 0) {
+            int used = 0;
+            for (int i = 0; i < hopCount; i++) {
+                Hop hop = (set >> i & 1) == 1 ? hopAt(i) : null;
+                int channel = hop == null ? 0 : 1 << hop.channelAt(slot);
+                if ((used & channel) != 0) {
                     return true;
                 }
-                taken |= channel;
+                used |= channel;
             }
             return false;
         }
     }
 
-    /** The bytes of a text cut into TOKENS, as long as the TELLS go on. */
+    /** The tape; its text cut into TOKENS, and whether TELLS can be made of them. */
     private static final class Text {
         private static final int SYNTAX = 1;
         private static final int ROOM = 2;
@@ -975,54 +968,150 @@ public final class SpreadRows {
         private static final int SAMPLES = 9;
         private static final int DRIFT = 10;
 
-        private final Row tape;
-        private final Row kinds = new Row(TOKENS_MOST);
-        private final Row places = new Row(TOKENS_MOST);
-        private final Row values = new Row(TOKENS_MOST);
-        private final Row roomLeft = new Row(SAMPLES);
+        private final Row tape = new Row(TAPE_MOST);
+        // one more than TOKENS may be: the one too many, or the END
+        private final Row kinds = new Row(TOKENS_MOST + 1);
+        private final Row places = new Row(TOKENS_MOST + 1);
+        private final Row values = new Row(TOKENS_MOST + 1);
+        private final Row wordValues = new Row(DRIFT + 1);
+        private final Row roomLeft = new Row(JAM + 1);
         private int length = 0;
-        private int tokens = 0;
+        private int at = 0;
         private int fault = 0;
         private int faultPlace = NONE;
-        // the TOKEN that stands ahead, not yet taken: from start on, up to end
-        private int kind = END;
-        private int start = 0;
-        private int end = 0;
-        private long value = 0;
 
-        Text(Row bytes) {
-            tape = bytes;
+        Text() {
+            int word = 0;
+            for (int i = 0; i < WORDS.length(); i++) {
+                if (WORDS.charAt(i) == ' ') {
+                    word++;
+                } else {
+                    wordValues.put(word, withLetter(wordValues.at(word), WORDS.charAt(i)));
+                }
+            }
         }
 
-        /** Cuts so many bytes: 0, or the number of the first FAULT of SYNTAX or ROOM. */
-        int cut(int bytes) {
-            length = bytes;
-            tokens = 0;
-            fault = 0;
-            faultPlace = NONE;
-            end = 0;
-            makeRoom();
-            look();
-            for (int i = 0; i <= TOKENS_MOST && kind != END && fault == 0; i++) {
-                tell();
-                look();
+        /** What letters count, each of them in its place: no two NAMES the same. */
+        private static long withLetter(long value, int letter) {
+            return value * 27 + letter - 'a' + 1;
+        }
+
+        void append(int fourBytes) {
+            for (int shift = 24; shift >= 0; shift -= 8) {
+                tape.put(length, fourBytes >> shift & 255);
+                length++;
             }
+        }
+
+        /** Takes the tape, which is empty then: 0, or the number of the first FAULT of SYNTAX or ROOM. */
+        int take() {
+            cut();
+            length = 0;
+            fault = 0;
+            at = 0;
+            makeRoom();
+            for (int i = 0; i < TOKENS_MOST && fault == 0 && kinds.at(at) != END; i++) {
+                tell();
+            }
+            faultPlace = fault == 0 ? NONE : places.small(at);
             return fault;
         }
 
+        /** Cuts the text up to its end, to what is no TOKEN, or to the one that is too many. */
+        private void cut() {
+            int from = 0;
+            int kind = WORD;
+            for (int n = 0; n <= TOKENS_MOST && kind != END && kind != NO_TOKEN; n++) {
+                int start = behindBlanks(from);
+                from = behindToken(start);
+                long value = valueOf(start, from);
+                kind = kindOf(start, from, value);
+                kinds.put(n, kind);
+                places.put(n, start);
+                values.put(n, kind == WORD ? wordOf(value) : value);
+            }
+        }
+
+        private int behindBlanks(int from) {
+            for (int i = from; i < length; i++) {
+                int sign = tape.small(i);
+                if (sign != 9 && sign != 10 && sign != 13 && sign != 32) {
+                    return i;
+                }
+            }
+            return length;
+        }
+
+        private int behindToken(int start) {
+            int first = tape.small(start);
+            boolean goesOn = isLetter(first) || isDigit(first);
+            for (int i = start + 1; i < length; i++) {
+                int sign = tape.small(i);
+                boolean alike = isLetter(sign) == isLetter(first) && isDigit(sign) == isDigit(first);
+                if (!goesOn || !alike) {
+                    return i;
+                }
+            }
+            return length;
+        }
+
+        /** Of letters, of digits what they count; of too many of them it may wrap, but they are no TOKEN. */
+        private long valueOf(int start, int end) {
+            long value = 0;
+            for (int i = start; i < end; i++) {
+                int sign = tape.small(i);
+                value = isDigit(sign) ? value * 10 + sign - '0' : withLetter(value, sign);
+            }
+            return value;
+        }
+
+        private int kindOf(int start, int end, long value) {
+            int sign = tape.small(start);
+            if (start >= length) {
+                return END;
+            }
+            if (isLetter(sign)) {
+                return end - start > 8 ? NO_TOKEN : wordOf(value) == NONE ? NAME : WORD;
+            }
+            if (isDigit(sign)) {
+                return end - start > 4 ? NO_TOKEN : INT;
+            }
+            return sign == ';' ? CLOSE : sign == '-' ? MINUS : NO_TOKEN;
+        }
+
+        private int wordOf(long value) {
+            for (int word = 0; word <= DRIFT; word++) {
+                if (wordValues.at(word) == value) {
+                    return word;
+                }
+            }
+            return NONE;
+        }
+
+        private static boolean isLetter(int sign) {
+            return sign >= 'a' && sign <= 'z';
+        }
+
+        private static boolean isDigit(int sign) {
+            return sign >= '0' && sign <= '9';
+        }
+
         private void makeRoom() {
-            roomLeft.put(REG, CODES_MOST);
+            roomLeft.put(BOTH, CODES_MOST);
             roomLeft.put(HOP, HOPS_MOST);
             roomLeft.put(SEND, SENDERS_MOST);
             roomLeft.put(ECHO, ECHOES_MOST);
             roomLeft.put(JAM, JAMS_MOST);
-            // of these any number, as far as the TOKENS go
-            roomLeft.put(NOISE, TOKENS_MOST);
         }
 
-        /** Where the room of a TELL is counted: all CODES share one, what has no bound of its own another. */
-        private static int roomOf(int word) {
-            return word <= BOTH ? REG : Math.min(word, NOISE);
+        /** CODES of all kinds share one room; of noise and samples there may be any number. */
+        private boolean takesRoom(int word) {
+            if (word > JAM) {
+                return true;
+            }
+            int room = Math.max(word, BOTH);
+            roomLeft.increase(room, -1);
+            return roomLeft.at(room) >= 0;
         }
 
         private static String shapeOf(int word) {
@@ -1040,160 +1129,60 @@ public final class SpreadRows {
             }
         }
 
+        /** One TELL; at a FAULT it stays at the TOKEN that is one. */
         private void tell() {
-            int word = kind == WORD ? (int) value : DRIFT;
-            if (word == DRIFT) {
-                refuse(SYNTAX);
+            int word = values.small(at);
+            if (kinds.at(at) != WORD || word == DRIFT) {
+                fault = SYNTAX;
                 return;
             }
-            int room = roomOf(word);
-            if (roomLeft.at(room) < 1) {
-                refuse(ROOM);
+            if (!takesRoom(word)) {
+                fault = ROOM;
                 return;
             }
-            roomLeft.increase(room, -1);
             String shape = shapeOf(word);
-            keep();
+            goOn();
             for (int i = 0; i < shape.length() && fault == 0; i++) {
                 part(shape.charAt(i));
             }
         }
 
         private void part(char sign) {
-            look();
+            long kind = kinds.at(at);
             switch (sign) {
                 case 'n': must(NAME); break;
                 case 'i': must(INT); break;
-                case '-': partMinus(); break;
-                case 'd': partDrift(); break;
+                case '-':
+                    if (kind == MINUS) {
+                        goOn();
+                    }
+                    break;
+                case 'd':
+                    if (kind == WORD && values.at(at) == DRIFT) {
+                        goOn();
+                        if (fault == 0) {
+                            must(INT);
+                        }
+                    }
+                    break;
                 default: must(CLOSE); break;
             }
         }
 
-        private void partMinus() {
-            if (kind == MINUS) {
-                keep();
-            } else {
-                end = start;
-            }
-        }
-
-        private void partDrift() {
-            if (kind == WORD && value == DRIFT) {
-                keep();
-                look();
-                must(INT);
-            } else {
-                end = start;
-            }
-        }
-
         private void must(int due) {
-            if (kind == due) {
-                keep();
+            if (kinds.at(at) == due) {
+                goOn();
             } else {
-                refuse(SYNTAX);
+                fault = SYNTAX;
             }
         }
 
-        private void keep() {
-            if (tokens >= TOKENS_MOST) {
-                refuse(ROOM);
-                return;
-            }
-            kinds.put(tokens, kind);
-            places.put(tokens, start);
-            values.put(tokens, value);
-            tokens++;
-        }
-
-        /** The first one stays: what comes behind it is not looked at. */
-        private void refuse(int number) {
-            if (fault == 0) {
-                fault = number;
-                faultPlace = start;
-            }
-        }
-
-        /** Looks at the TOKEN behind the one that stands ahead. */
-        private void look() {
-            start = end;
-            value = 0;
-            for (int i = end; i < length && isBlank(tape.small(i)); i++) {
-                start = i + 1;
-            }
-            end = start + 1;
-            int sign = tape.small(start);
-            if (start >= length) {
-                kind = END;
-                end = start;
-            } else if (isLetter(sign)) {
-                lookAtLetters();
-            } else if (isDigit(sign)) {
-                lookAtDigits();
+        private void goOn() {
+            if (at >= TOKENS_MOST) {
+                fault = ROOM;
             } else {
-                kind = sign == ';' ? CLOSE : sign == '-' ? MINUS : NO_TOKEN;
+                at++;
             }
-        }
-
-        private void lookAtLetters() {
-            for (int i = start; i < length && isLetter(tape.small(i)); i++) {
-                // 27 to the 8 names: more letters than 8 are no NAME, whatever they count
-                value = value * 27 + tape.at(i) - 'a' + 1;
-                end = i + 1;
-            }
-            int word = wordAhead();
-            kind = word >= 0 ? WORD : end - start > 8 ? NO_TOKEN : NAME;
-            value = word >= 0 ? word : value;
-        }
-
-        private void lookAtDigits() {
-            for (int i = start; i < length && isDigit(tape.small(i)); i++) {
-                value = value * 10 + tape.at(i) - '0';
-                end = i + 1;
-            }
-            kind = end - start > 4 ? NO_TOKEN : INT;
-        }
-
-        private int wordAhead() {
-            int word = 0;
-            int from = 0;
-            for (int i = 0; i < WORDS.length(); i++) {
-                if (WORDS.charAt(i) == ' ') {
-                    if (isWord(from, i)) {
-                        return word;
-                    }
-                    word++;
-                    from = i + 1;
-                }
-            }
-            return NONE;
-        }
-
-        /** Whether the letters ahead are those of WORDS from one place up to another. */
-        private boolean isWord(int from, int to) {
-            if (end - start != to - from) {
-                return false;
-            }
-            for (int i = 0; i < to - from; i++) {
-                int at = from + i;
-                if (at < 0 || at >= WORDS.length() || WORDS.charAt(at) != tape.at(start + i)) {
-                    return false;
-                }
-            }
-            return true;
-        }
-
-        private static boolean isBlank(int sign) {
-            return sign == 9 || sign == 10 || sign == 13 || sign == 32;
-        }
-
-        private static boolean isLetter(int sign) {
-            return sign >= 'a' && sign <= 'z';
-        }
-
-        private static boolean isDigit(int sign) {
-            return sign >= '0' && sign <= '9';
         }
     }
 
@@ -1206,7 +1195,7 @@ public final class SpreadRows {
         // 2, 3, 5, 7, 11, 13, 17, 19, 23, 29, 31: for each prime up to 31 its bit
         private static final long PRIMES = 0xA08A28ACL;
 
-        private final Text text;
+        private final Text text = new Text();
         private final Row names = new Row(NAMES_MOST);
         private final Row nameWords = new Row(NAMES_MOST);
         private final Row nameNumbers = new Row(NAMES_MOST);
@@ -1215,18 +1204,14 @@ public final class SpreadRows {
         private int fault = 0;
         private int faultPlace = NONE;
 
-        Maker(Text cutText) {
-            text = cutText;
-        }
-
-        /** Fills what is told: 0, or the number of the first FAULT. */
+        /** Fills what is told from the tape: 0, or the number of the first FAULT. */
         int make(Told told) {
             told.clear();
             nameCount = 0;
             at = 0;
-            fault = 0;
-            faultPlace = NONE;
-            for (int i = 0; i < TOKENS_MOST && at < text.tokens && fault == 0; i++) {
+            fault = text.take();
+            faultPlace = text.faultPlace;
+            for (int i = 0; i < TOKENS_MOST && at < text.at && fault == 0; i++) {
                 int word = text.values.small(at);
                 at++;
                 makeTell(told, word);
