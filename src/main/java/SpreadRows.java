@@ -299,7 +299,7 @@ public final class SpreadRows {
             return NONE;
         }
         receiver.gather(incoming, one);
-        return receiver.wrongBits(one, told.samples);
+        return receiver.wrongBits(one, one.periods(told.samples));
     }
 
     public int joined(int sender, int p) {
@@ -1756,9 +1756,8 @@ public final class SpreadRows {
             return bitRead(period) == sender.bitSent(period) ? 0 : 1;
         }
 
-        int wrongBits(Sender sender, int samples) {
+        int wrongBits(Sender sender, int periods) {
             int n = 0;
-            int periods = sender.periods(samples);
             for (int p = 0; p < periods; p++) {
                 n += wrongBit(sender, p);
             }
@@ -1806,7 +1805,7 @@ public final class SpreadRows {
         void findWorstPulse(Signal signal, Sender sender, int width, int amplitude) {
             gather(signal, sender);
             int samples = signal.samples;
-            int wrongNow = wrongBits(sender, samples);
+            int wrongNow = wrongBits(sender, sender.periods(samples));
             for (int i = 0; i < width; i++) {
                 wrongNow += wrongMore(sender, i, samples, amplitude);
             }
@@ -1864,7 +1863,7 @@ public final class SpreadRows {
                 Sender sender = told.senderAt(strongerFirst(told, rank));
                 if (sender != null) {
                     gather(left, sender);
-                    wrongAll += wrongBits(sender, left.samples);
+                    wrongAll += wrongBits(sender, sender.periods(left.samples));
                     left.layWave(sender, sums, -1);
                 }
             }
@@ -1912,7 +1911,7 @@ public final class SpreadRows {
                         left.layWave(sender, sumsAhead[i], -1);
                     }
                     sumsNow[i].takeOver(sums);
-                    wrongAll += wrongBits(sender, left.samples);
+                    wrongAll += wrongBits(sender, sender.periods(left.samples));
                 }
             }
             return wrongAll;
