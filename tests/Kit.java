@@ -2,10 +2,25 @@ import java.util.Objects;
 
 /** What the tests share: texts onto the tape, and answers laid beside those that are due. */
 final class Kit {
+    private static final String STALE = stale();
+
     static int looked = 0;
     static int wrong = 0;
 
     private Kit() {
+    }
+
+    /** As much as a text can tell, with long rows. */
+    private static String stale() {
+        StringBuilder all = new StringBuilder("samples 512; noise 50 1;");
+        for (int i = 0; i < 8; i++) all.append("reg zzc").append((char) ('a' + i)).append(" 7 65 ").append(i + 1).append(';');
+        for (int i = 0; i < 6; i++) {
+            char n = (char) ('a' + i);
+            all.append("hop zzh").append(n).append(" 31 7 5;send zzs").append(n).append(" zzca 99 ").append(i).append(" 2 1 drift 9;");
+            all.append("echo zzsa ").append(i + 1).append(" 9;");
+        }
+        for (int i = 0; i < 4; i++) all.append("jam 0 511 99 1;");
+        return all.toString();
     }
 
     static void due(String call, long got, long want) {
@@ -56,9 +71,16 @@ final class Kit {
         return x.read();
     }
 
-    /** An object that has read a text, which must be without a FAULT. */
+    /** An object that has read a text, which must be without a FAULT; what it has told before must not show. */
     static SpreadRows told(String text) {
         SpreadRows x = new SpreadRows();
+        for (int i = 0; i < 2; i++) {
+            due("read of what is stale", read(x, STALE), 0);
+            x.family(127, 0);
+            x.best(0, 0, 1);
+            x.atOnce(2);
+            x.hold(i);
+        }
         due("read of " + text, read(x, text), 0);
         return x;
     }

@@ -23,7 +23,7 @@ public final class LanguageTest {
         + "jammed(2) strongest(2) hold(1) restore(1) count(1)";
     private static final String[] NOT_THERE = {"\\b(throw|throws|try|catch|finally|synchronized|assert|import|package|volatile|transient|native)\\b",
         "->", "::", "\\b(double|float|NaN|Object|System|Thread|Runtime|Random)\\b", "\\w+Exact\\b", "\\b(equals|hashCode|toString)\\b",
-        "\"\\s*\\+", "\\+\\s*\"", "\\binstanceof\\b", "\\bwhile\\s*\\(\\s*true", "\\bfor\\s*\\(\\s*;"};
+        "\"\\s*\\+", "\\+\\s*\"", "\\binstanceof\\b", "\\bwhile\\s*\\(\\s*true", "\\bfor\\s*\\(\\s*;", "MAX_VALUE|MIN_VALUE", "\\b(String|Math|Integer|Long)\\.(?!max|min|abs|bitCount)"};
 
     public static void main(String[] args) throws Exception {
         face();
@@ -78,7 +78,10 @@ public final class LanguageTest {
             }
             Kit.due(c + " has some twenty fields", fields <= 20, true);
             if (c != SpreadRows.class && !Modifier.isStatic(c.getModifiers())) no("inner " + c);
-            for (Method m : c.getDeclaredMethods()) if (m.getParameterCount() > 7) no("more than seven: " + m);
+            for (Method m : c.getDeclaredMethods()) {
+                if (m.getParameterCount() > 7) no("more than seven: " + m);
+                if (c != SpreadRows.class && (" " + FACE).contains(" " + m.getName() + "(")) no("the name of a public one: " + m);
+            }
         }
     }
 

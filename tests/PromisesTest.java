@@ -212,6 +212,7 @@ public final class PromisesTest {
         fault(1, "hop a 5 1 1 ^1;");
         fault(1, "send a b 1 1 1 ^;");
         fault(1, "send a b 1 1 1 1 ^1;");
+        fault(1, "send a b 1 1 1 1 ^10 5;");
         fault(1, "send a b 1 1 1 1 drift ^;");
         fault(1, "send a b 1 1 1 1 drift ^drift 1;");
         fault(1, "send a b 1 1 1 1 drift 1 ^drift 1;");
@@ -268,6 +269,7 @@ public final class PromisesTest {
     private static void promise4Meaning() {
         String all = "bits a 4 1; hop h 5 1 1; send s a 1 0 0 0; walsh w 3 1;";
         fine(all);
+        fine("bits a 1 0; bits aa 1 0; bits aaa 1 0; bits ab 1 0; bits ba 1 0; bits z 1 0; bits az 1 0; bits za 1 0;");
         fault(3, "reg a 3 1 1; walsh ^a 2 1;");
         fault(3, "bits a 4 1; hop ^a 5 1 1;");
         fault(3, "bits a 4 1; send ^a a 1 0 0 0;");
@@ -408,6 +410,8 @@ public final class PromisesTest {
         SpreadRows x = Kit.told(CODES);
         String[] rows = {"-+++", "--++", "+-+-", "-++-+--", "+++-", "+", "-++", "+---", ""};
         for (int c = 0; c < rows.length; c++) Kit.due("chips of " + c, signs(x, c), rows[c]);
+        due("chip(0, 5)", x.chip(0, 5), 0);
+        due("chip(0, 100)", x.chip(0, 100), 0);
         due("chip(0, -1)", x.chip(0, -1), 0);
         due("chip(0, 4)", x.chip(0, 4), 0);
         due("chip(-1, 0)", x.chip(-1, 0), 0);
@@ -443,7 +447,8 @@ public final class PromisesTest {
         due("worst(-1, 0)", x.worst(-1, 0), -1);
         due("worst(0, MIN)", x.worst(0, MIN), -1);
         // another one with the same chips is not itself
-        SpreadRows y = Kit.told("bits a 5 7; bits b 5 7; bits c 1 0; bits d 1 1;");
+        SpreadRows y = Kit.told("bits a 5 7; bits b 5 7; bits c 1 0; bits d 1 1; bits e 2 1;");
+        due("worst(4, 4)", y.worst(4, 4), 2);
         due("worst(0, 0)", y.worst(0, 0), 3);
         due("worst(0, 1)", y.worst(0, 1), 5);
         due("worst(2, 2)", y.worst(2, 2), 0);
@@ -473,6 +478,8 @@ public final class PromisesTest {
         due("depth(MAX)", x.depth(MAX), -1);
         SpreadRows y = Kit.told("bits a 5 31; bits b 5 0; bits c 13 1; bits d 6 9; reg e 7 3 1; reg f 7 9 1; both g e f 0; walsh h 6 63;");
         rowDue("depths", "1 0 13 3 7 7 14 33", y::depth);
+        SpreadRows z = Kit.told("reg a 7 1 1; reg b 7 1 2;");
+        rowDue("depths", "127 126", z::depth);
     }
 
     private static void promise12() {
@@ -662,6 +669,9 @@ public final class PromisesTest {
         due("best(0, -1, 1)", x.best(0, -1, 1), -1);
         due("best(0, 0, 0)", x.best(0, 0, 0), -1);
         due("best(0, 0, 10)", x.best(0, 0, 10), -1);
+        SpreadRows o = Kit.told("reg m 7 3 1; samples 512; send s m 7 126 1 0;");
+        due("best, a long row", o.best(0, 1, 2), 4 * 125 + 1);
+        due("best, the second cell", Kit.told("reg m 7 3 1; samples 512; send s m 7 0 1 0;").best(0, 0, 2), 1);
         due("best of nothing", Kit.told("bits a 4 1;").best(0, 0, 1), 0);
     }
 
@@ -677,6 +687,8 @@ public final class PromisesTest {
         due("second(0, 200, ..)", y.second(0, 200, 3, 0), -1);
         due("second(.., 10, 0)", y.second(0, 0, 10, 0), -1);
         due("second(.., MIN, MAX)", y.second(MIN, MAX, MIN, MAX), -1);
+        SpreadRows first = Kit.told("reg m 7 3 1; samples 512; send s m 7 0 1 0; send t m 4 0 0 0;");
+        due("second, the first cell", first.second(0, 0, 3, 0), 0);
         // of nothing: the least that is not the best one
         SpreadRows z = Kit.told("bits a 4 1; bits b 1 0;");
         due("second of nothing", z.second(0, 0, 1, 0), 1);
@@ -724,6 +736,9 @@ public final class PromisesTest {
         rowDue("looks from each", "5 4 3 2 1 1 1 1 13 12 11 10 9 8 7 6 -1", c -> x.plan(0, 0, 1, c, 1, 81));
         rowDue("looks by steps of", "-1 5 3 3 2 2 2 2 -2 5 3 3 4 4 6 10 -2 -1", s -> x.plan(0, 0, 1, 0, s, 81));
         due("none has it", x.plan(0, 0, 1, 0, 1, 82), -2);
+        SpreadRows last = Kit.told("reg m 5 5 3; samples 200; send s m 7 0 0 0;");
+        due("the last one has it", last.plan(0, 0, 3, 1, 1, 3 * 217 * 217), 124);
+        due("all but it", last.plan(0, 0, 3, 0, 1, 3 * 217 * 217), 1);
         due("all have it", x.plan(0, 0, 1, 15, 16, Long.MIN_VALUE), 1);
         due("cell -1", x.plan(0, 0, 1, -1, 1, 0), -1);
         due("step -1", x.plan(0, 0, 1, 0, -1, 0), -1);
@@ -815,6 +830,16 @@ public final class PromisesTest {
         x.add(0, -2);
         rowDue("bits", "1 0 1 1 1 1 1 1 -2", p -> x.bit(0, p));
         rowDue("joined", "1 1 1 1 1 1 1 1 -2", p -> x.joined(0, p));
+        // each by its own AMPLITUDE
+        SpreadRows loud = Kit.told("bits a 4 0; samples 32; send s a 9 0 0 0; echo s 16 1; send t a 1 0 0 1; jam 16 19 5 1;");
+        loud.add(0, -1);
+        rowDue("joined by AMPLITUDES", "1 0 0 0 0 0 0 0 -2", p -> loud.joined(0, p));
+        loud.anew();
+        loud.add(0, -1);
+        loud.add(1, -1);
+        rowDue("joined", "0 0 0 0 0 0 0 0 -2", p -> loud.joined(0, p));
+        SpreadRows least = Kit.told("bits a 1 0; samples 16; send s a 1 0 0 1;");
+        rowDue("joined of one sample", "1 0", p -> least.joined(0, p));
         due("joined(0, -1)", x.joined(0, -1), -1);
         due("joined(1, 0)", x.joined(1, 0), -1);
         due("joined(-1, 0)", x.joined(-1, 0), -1);
@@ -866,6 +891,10 @@ public final class PromisesTest {
             due("hurt(0, " + d[0] + ", " + d[1] + ", 1)", x.hurt(0, d[0], d[1], 1), d[3]);
         }
         due("power stays", x.power(0, 15), 16 * 9);
+        // only the last PERIOD is weak, only a whole pulse is enough for it
+        SpreadRows weak = Kit.told("bits a 4 15; samples 16; send s a 3 0 0 0; jam 12 15 2 1;");
+        due("hurt of a weak one", weak.hurt(0, 2, 3, 0), 12);
+        due("hurt of a weak one", weak.hurt(0, 2, 3, 1), 1);
         due("hurt(0, 0, ..)", x.hurt(0, 0, 4, 0), -1);
         due("hurt(0, 100, ..)", x.hurt(0, 100, 4, 0), -1);
         due("hurt(0, .., 0, ..)", x.hurt(0, 4, 0, 0), -1);
@@ -911,6 +940,11 @@ public final class PromisesTest {
         due("taken(MIN, MAX)", x.taken(MIN, MAX), -1);
         x.add(0, -2);
         due("taken(0, 0) behind", x.taken(0, 0), 4);
+        // a sum of 0 is taken out as a 0
+        SpreadRows none = Kit.told(TWO);
+        none.add(0, -1);
+        none.add(1, -1);
+        due("taken(0, 0) of nothing", none.taken(0, 0), 3);
         SpreadRows y = Kit.told("bits a 4 1; send s a 5 0 0 0; send t a 9 1 0 0; send u a 5 2 0 0; send v a 9 3 0 0; send w a 1 0 0 0; send x a 6 0 0 0;");
         rowDue("order", "1 3 5 0 2 4 -1", i -> y.taken(1, i));
         SpreadRows z = Kit.told(THREE);
@@ -958,6 +992,9 @@ public final class PromisesTest {
         rowDue("up", "3 0 0", m -> y.loop(0, 3, 0, 4, m));
         rowDue("down", "1 0 0", m -> y.loop(0, 1, 0, 4, m));
         rowDue("stays", "2 2 2", m -> y.loop(0, 2, 0, 4, m));
+        SpreadRows level = Kit.told("reg m 5 5 1; samples 200; send s m 5 5 0 0; send t m 5 6 0 0;");
+        rowDue("alike ones", "5 5 5", m -> level.loop(0, 5, 0, 31, m));
+        rowDue("alike ones", "6 6 6", m -> level.loop(0, 6, 0, 31, m));
         SpreadRows z = Kit.told("bits a 4 1; samples 64; send s a 3 3 1 0; bits b 1 0; bits c 2 1;");
         rowDue("down under", "0 3 3", m -> z.loop(0, 0, 1, 8, m));
         rowDue("one chip", "0 0 0", m -> z.loop(1, 0, 1, 8, m));
@@ -972,6 +1009,9 @@ public final class PromisesTest {
             due("follows(.., 41)", x.follows(s, 41), -1);
             due("follows(.., -1)", x.follows(s, -1), -1);
         }
+        // the loop goes with the other one, from the first PERIOD on
+        SpreadRows lost = Kit.told("reg m 5 5 1; samples 200; send s m 1 5 0 0; send t m 9 6 0 0 drift 1;");
+        rowDue("follows a stronger one", "1 1 0 0", m -> lost.follows(0, m));
         due("follows(3, 0)", x.follows(3, 0), -1);
         due("follows(-1, 0)", x.follows(-1, 0), -1);
         due("follows(MIN, MAX)", x.follows(MIN, MAX), -1);
@@ -984,6 +1024,8 @@ public final class PromisesTest {
         due("range of two", x.range(0, 1, 1, 2, -1, 99), 9);
         due("range of two", x.range(1, 2, 0, 1, -1, 99), 9);
         due("range of three", x.range(0, 1, 1, 2, 2, 3), 93);
+        due("range of 0", x.range(0, 0, 1, 0, -1, 0), 0);
+        due("range of 0", x.range(0, 0, 1, 0, 2, 0), 0);
         due("range of the same", x.range(0, 1, 0, 1, 0, 1), 1);
         due("range of the same, unlike", x.range(0, 1, 0, 2, -1, 0), -2);
         due("range, 4 and 6", x.range(0, 1, 3, 3, -1, 0), 9);

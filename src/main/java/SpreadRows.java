@@ -341,10 +341,7 @@ public final class SpreadRows {
         if (what == 0) {
             return receiver.takeOut(told, incoming, told.senderCount);
         }
-        if (what != 1 || i < 0 || i >= told.senderCount) {
-            return NONE;
-        }
-        return receiver.strongerFirst(told, i);
+        return what == 1 ? receiver.strongerFirst(told, i) : NONE;
     }
 
     public long rest(int senders) {
@@ -413,7 +410,8 @@ public final class SpreadRows {
         if (a == NONE || !isRest(a, da) || !isRest(b, db) || most < 0 || most > 20000) {
             return NONE;
         }
-        int least = Integer.MAX_VALUE;
+        // no rest is further off than its LENGTH
+        int least = 2 * LENGTH_MOST + 1;
         int found = 0;
         for (int number = 0; number <= most; number++) {
             int off = apart(number, da, lengthOf(a)) + apart(number, db, lengthOf(b));
@@ -1147,7 +1145,7 @@ public final class SpreadRows {
             }
         }
 
-        private void part(char sign) {
+        private void part(int sign) {
             long kind = kinds.at(at);
             switch (sign) {
                 case 'n': must(NAME); break;
@@ -1235,7 +1233,8 @@ public final class SpreadRows {
                     told.noiseMost = number(0, 50);
                     told.noiseSeed = number(0, 9999);
                     break;
-                default: told.samples = number(16, SAMPLES_MOST); break;
+                case Text.SAMPLES: told.samples = number(16, SAMPLES_MOST); break;
+                default: break;
             }
         }
 
@@ -1832,7 +1831,7 @@ public final class SpreadRows {
             return wrongBit(sender, period) - ahead;
         }
 
-        /** The SENDER so many others are TAKEN OUT ahead of. */
+        /** The SENDER so many others are TAKEN OUT ahead of; NONE if there are not so many. */
         int strongerFirst(Told told, int rank) {
             for (int i = 0; i < told.senderCount; i++) {
                 if (strongerThan(told, i) == rank) {
