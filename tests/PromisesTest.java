@@ -522,6 +522,8 @@ public final class PromisesTest {
         rowDue("re", "5 0 -5 0 5", i -> t.sample(8 * i, false));
         rowDue("im", "0 -5 0 5 0", i -> t.sample(8 * i, true));
         rowDue("im", "0 -5 0 5 0", i -> t.sample(8 * i + (i < 4 ? 7 : 0), true));
+        SpreadRows six = Kit.told("bits a 1 0; samples 16; send s a 1 0 0 0; echo s 1 2; echo s 2 4; echo s 3 8; echo s 4 - 16; echo s 5 32; echo s 6 64;");
+        rowDue("six echoes", "1 3 7 15 -1 31 95 95", i -> six.sample(i, false));
         // DATA comes again with PERIOD 14
         SpreadRows d = Kit.told("bits a 1 0; samples 40; send s a 1 0 2 8193;");
         rowDue("re", "-1 1 1 1 1 1 1 1 -1 -1 -1 -1 -1 1 1 -1 1 1 1 1 1 1 1 1 -1 -1 -1 1 1 -1", i -> d.sample(i, false));
