@@ -1,13 +1,27 @@
+import java.io.IOException;
+import java.nio.file.Files;
+import java.nio.file.Path;
 import java.util.Objects;
+import java.util.TreeSet;
+import java.util.function.IntToLongFunction;
+import java.util.function.IntUnaryOperator;
 
 /** What the tests share: texts onto the tape, and answers laid beside those that are due. */
-final class Kit {
+class Kit {
+    static final int MIN = Integer.MIN_VALUE;
+    static final int MAX = Integer.MAX_VALUE;
+    private static final int PROMISES = 48;
     private static final String STALE = stale();
 
     static int looked = 0;
     static int wrong = 0;
+    private static String heading = "";
+    private static int lookedAhead = 0;
+    private static int sentences = 0;
+    private static final TreeSet<Integer> kept = new TreeSet<>();
+    private static String document = null;
 
-    private Kit() {
+    Kit() {
     }
 
     /** As much as a text can tell, with long rows. */
@@ -23,29 +37,92 @@ final class Kit {
         return all.toString();
     }
 
-    static void due(String call, long got, long want) {
-        looked++;
-        if (got != want) {
+    // ---- sentences of the document
+
+    /** What comes next is due by a sentence of the document, that promises keep: their numbers, with blanks between. */
+    static void sentence(String promises, String words) {
+        endSentence();
+        heading = "promise " + promises.replace(" ", ", ") + ", \"" + words + "\": ";
+        lookedAhead = looked;
+        sentences++;
+        for (String number : promises.split(" ")) kept.add(Integer.parseInt(number));
+        if (!document().contains(words)) {
             wrong++;
-            System.out.println(call + " answered " + got + ", due is " + want);
+            System.out.println(heading + "no such words in the document");
         }
     }
 
-    static void due(String call, boolean got, boolean want) {
-        looked++;
-        if (got != want) {
+    private static void endSentence() {
+        if (sentences > 0 && looked == lookedAhead) {
             wrong++;
-            System.out.println(call + " answered " + got + ", due is " + want);
+            System.out.println(heading + "nothing was looked at");
         }
     }
 
-    static void due(String call, String got, String want) {
+    /** Each promise has a sentence of its own. */
+    static void endSentences() {
+        endSentence();
+        heading = "";
+        System.out.println(sentences + " sentences of the document");
+        for (int i = 1; i <= PROMISES; i++) due("a sentence of promise " + i, kept.contains(i), true);
+    }
+
+    /** The document, with one blank wherever it has any. */
+    private static String document() {
+        if (document == null) {
+            try {
+                document = Files.readString(Path.of("../shared/DOC.md")).replaceAll("\\s+", " ");
+            } catch (IOException e) {
+                throw new java.io.UncheckedIOException(e);
+            }
+        }
+        return document;
+    }
+
+    // ---- answers
+
+    private static void lay(String call, String got, String want) {
         looked++;
         if (!Objects.equals(got, want)) {
             wrong++;
-            System.out.println(call + " answered " + got + ", due is " + want);
+            System.out.println(heading + shortened(call) + " answered " + got + ", due is " + want);
         }
     }
+
+    private static String shortened(String call) {
+        int n = call.length();
+        return n < 300 ? call : call.substring(0, 100) + " .. " + call.substring(n - 150);
+    }
+
+    static void due(String call, long got, long want) {
+        lay(call, "" + got, "" + want);
+    }
+
+    static void due(String call, boolean got, boolean want) {
+        lay(call, "" + got, "" + want);
+    }
+
+    static void due(String call, String got, String want) {
+        lay(call, got, want);
+    }
+
+    /** Some answers in a row, with blanks between. */
+    static String row(int n, IntUnaryOperator answer) {
+        StringBuilder all = new StringBuilder();
+        for (int i = 0; i < n; i++) all.append(i == 0 ? "" : " ").append(answer.applyAsInt(i));
+        return all.toString();
+    }
+
+    static void rowDue(String what, String want, IntUnaryOperator answer) {
+        due(what, row(want.split(" ").length, answer), want);
+    }
+
+    /** A call that is refused with each of these arguments. */
+    static void refused(String call, long want, IntToLongFunction answer, int... arguments) {
+        for (int argument : arguments) due(call + " of " + argument, answer.applyAsLong(argument), want);
+    }
+
+    // ---- texts
 
     /** The five ints of twenty bytes of a text from a place on; blanks behind its end. */
     static int[] five(String text, int from) {
@@ -83,6 +160,34 @@ final class Kit {
         }
         due("read of " + text, read(x, text), 0);
         return x;
+    }
+
+    /** A text with a FAULT at the byte where ^ stands, which goes. */
+    static void fault(int number, String marked) {
+        int place = marked.indexOf('^');
+        faultAt(number, place, marked.substring(0, place) + marked.substring(place + 1));
+    }
+
+    static void faultAt(int number, int place, String text) {
+        SpreadRows x = new SpreadRows();
+        due("read of " + text, read(x, text), number);
+        due("place of " + text, x.place(), place);
+        due("codes behind " + text, x.count(0), 0);
+    }
+
+    static void fine(String text) {
+        SpreadRows x = new SpreadRows();
+        due("read of " + text, read(x, text), 0);
+        due("place of " + text, x.place(), SpreadRows.NONE);
+    }
+
+    /** An INT that stands where # does: WRONG but from a least to a most number. */
+    static void bounds(String text, int least, int most) {
+        for (int number : new int[] {least, most}) fine(text.replace("#", "" + number));
+        for (int number : new int[] {0, least - 1, most + 1, 9999}) {
+            boolean beside = number < least || number > most;
+            if (beside && number >= 0 && number <= 9999) faultAt(5, text.indexOf('#'), text.replace("#", "" + number));
+        }
     }
 
     static void end() {

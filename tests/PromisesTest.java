@@ -1,10 +1,5 @@
-import java.util.function.IntUnaryOperator;
-
 /** Promise by promise: ordinary inputs, the edges that the document names, wrong inputs. */
-public final class PromisesTest {
-    private static final int MIN = Integer.MIN_VALUE;
-    private static final int MAX = Integer.MAX_VALUE;
-
+public final class PromisesTest extends Kit {
     /** One code "-+++", one sender without a turn: 32 samples. */
     private static final String PLAIN = "bits a 4 1; samples 32; send s a 3 1 0 2;";
     /** A tone, a drift at each period, an echo and a jam. */
@@ -69,47 +64,13 @@ public final class PromisesTest {
         promise46();
         promise47();
         promise48();
-        Kit.end();
-    }
-
-    private static void due(String call, long got, long want) {
-        Kit.due(call, got, want);
-    }
-
-    private static void due(String call, boolean got, boolean want) {
-        Kit.due(call, got, want);
-    }
-
-    /** Some answers in a row, with blanks between. */
-    private static String row(int n, IntUnaryOperator answer) {
-        StringBuilder all = new StringBuilder();
-        for (int i = 0; i < n; i++) all.append(i == 0 ? "" : " ").append(answer.applyAsInt(i));
-        return all.toString();
-    }
-
-    private static void rowDue(String what, String want, IntUnaryOperator answer) {
-        Kit.due(what, row(want.split(" ").length, answer), want);
+        end();
     }
 
     private static String signs(SpreadRows x, int code) {
         StringBuilder all = new StringBuilder();
         for (int i = 0; i < x.code(code, 0); i++) all.append(x.chip(code, i) == 1 ? '+' : x.chip(code, i) == -1 ? '-' : '?');
         return all.toString();
-    }
-
-    /** A text with a FAULT at the byte where ^ stands, which goes. */
-    private static void fault(int number, String marked) {
-        int place = marked.indexOf('^');
-        SpreadRows x = new SpreadRows();
-        due("read of " + marked, Kit.read(x, marked.substring(0, place) + marked.substring(place + 1)), number);
-        due("place of " + marked, x.place(), place);
-        due("codes behind " + marked, x.count(0), 0);
-    }
-
-    private static void fine(String text) {
-        SpreadRows x = new SpreadRows();
-        due("read of " + text, Kit.read(x, text), 0);
-        due("place of " + text, x.place(), -1);
     }
 
     private static String times(String part, int n) {
@@ -155,7 +116,7 @@ public final class PromisesTest {
         SpreadRows x = new SpreadRows();
         due("back(0)", x.back(0), 0);
         due("back(1)", x.back(1), -1);
-        Kit.write(x, "samples 16;x");
+        write(x, "samples 16;x");
         due("back(-1)", x.back(-1), -1);
         due("back(MIN)", x.back(MIN), -1);
         due("back(13)", x.back(13), -1);
@@ -165,9 +126,9 @@ public final class PromisesTest {
         due("back(1)", x.back(1), 11);
         due("read()", x.read(), 0);
         due("back(1)", x.back(1), -1);
-        Kit.write(x, "samples 16;x");
+        write(x, "samples 16;x");
         due("back(12)", x.back(12), 0);
-        Kit.write(x, "samples 17;");
+        write(x, "samples 17;");
         due("read()", x.read(), 0);
         due("count(5)", x.count(5), 17);
     }
@@ -349,30 +310,30 @@ public final class PromisesTest {
 
     /** A text with a FAULT changes nothing but the tape; one without is in place of the one ahead. */
     private static void promise4Nothing() {
-        SpreadRows x = Kit.told(PLAIN + "noise 2 2; hop h 5 1 1; jam 0 0 1 1;");
+        SpreadRows x = told(PLAIN + "noise 2 2; hop h 5 1 1; jam 0 0 1 1;");
         x.add(0, 2);
         x.hold(1);
         String ahead = row(9, x::count);
         long power = x.power(0, 31);
-        due("read", Kit.read(x, "bits q 5 1; bits r 5 2; samples 16; noise 9 9; send t r 1 0 0 0; samples 1;"), 5);
-        due("read", Kit.read(x, "bits q 5 1; samples 16; ."), 1);
-        Kit.due("counts behind a fault", row(9, x::count), ahead);
+        due("read", read(x, "bits q 5 1; bits r 5 2; samples 16; noise 9 9; send t r 1 0 0 0; samples 1;"), 5);
+        due("read", read(x, "bits q 5 1; samples 16; ."), 1);
+        due("counts behind a fault", row(9, x::count), ahead);
         due("power behind a fault", x.power(0, 31), power);
         due("restore behind a fault", x.restore(1), true);
         due("code behind a fault", x.code(0, 0), 4);
         due("wave behind a fault", x.wave(0, 1, false), -3);
-        due("read", Kit.read(x, "samples 16; bits q 5 1; bits r 5 2; samples 20; noise 9 9; noise 0 7;"), 0);
+        due("read", read(x, "samples 16; bits q 5 1; bits r 5 2; samples 20; noise 9 9; noise 0 7;"), 0);
         rowDue("counts behind a text", "2 0 0 0 0 20 0 0 0", x::count);
         due("power behind a text", x.power(0, 19), 0);
         due("restore behind a text", x.restore(1), false);
-        due("read", Kit.read(x, ""), 0);
+        due("read", read(x, ""), 0);
         rowDue("counts behind an empty text", "0 0 0 0 0 256 0 0 0", x::count);
     }
 
     private static void promise5() {
         SpreadRows x = new SpreadRows();
         due("place()", x.place(), -1);
-        due("read()", Kit.read(x, "reg a 3 1"), 1);
+        due("read()", read(x, "reg a 3 1"), 1);
         due("place()", x.place(), 9);
         x.feed(0x20202020, 0, 0, 0, 0);
         x.back(1);
@@ -380,7 +341,7 @@ public final class PromisesTest {
         due("place() stays", x.place(), 9);
         due("read()", x.read(), 1);
         due("place()", x.place(), 4);
-        due("read()", Kit.read(x, "!"), 1);
+        due("read()", read(x, "!"), 1);
         due("place()", x.place(), 0);
         due("read()", x.read(), 0);
         due("place()", x.place(), -1);
@@ -389,7 +350,7 @@ public final class PromisesTest {
     // ---- codes
 
     private static void promise6() {
-        SpreadRows x = Kit.told(CODES);
+        SpreadRows x = told(CODES);
         rowDue("lengths", "4 4 4 7 4 1 3 4 -1", c -> x.code(c, 0));
         rowDue("minuses", "1 2 2 4 1 0 1 3 -1", c -> x.code(c, 1));
         rowDue("own shifts", "4 4 2 7 4 1 3 4 -1", c -> x.code(c, 2));
@@ -399,7 +360,7 @@ public final class PromisesTest {
         due("code(-1, 0)", x.code(-1, 0), -1);
         due("code(MIN, MIN)", x.code(MIN, MIN), -1);
         due("code(MAX, MAX)", x.code(MAX, MAX), -1);
-        SpreadRows y = Kit.told("bits a 6 9; bits b 6 21; bits c 6 63; reg r 7 3 1; walsh w 6 63;");
+        SpreadRows y = told("bits a 6 9; bits b 6 21; bits c 6 63; reg r 7 3 1; walsh w 6 63;");
         rowDue("lengths", "6 6 6 127 64", c -> y.code(c, 0));
         rowDue("minuses", "2 3 6 64 32", c -> y.code(c, 1));
         rowDue("own shifts", "3 2 1 127 64", c -> y.code(c, 2));
@@ -407,9 +368,9 @@ public final class PromisesTest {
     }
 
     private static void promise7() {
-        SpreadRows x = Kit.told(CODES);
+        SpreadRows x = told(CODES);
         String[] rows = {"-+++", "--++", "+-+-", "-++-+--", "+++-", "+", "-++", "+---", ""};
-        for (int c = 0; c < rows.length; c++) Kit.due("chips of " + c, signs(x, c), rows[c]);
+        for (int c = 0; c < rows.length; c++) due("chips of " + c, signs(x, c), rows[c]);
         due("chip(0, 5)", x.chip(0, 5), 0);
         due("chip(0, 100)", x.chip(0, 100), 0);
         due("chip(0, -1)", x.chip(0, -1), 0);
@@ -418,15 +379,15 @@ public final class PromisesTest {
         due("chip(8, 0)", x.chip(8, 0), 0);
         due("chip(0, MAX)", x.chip(0, MAX), 0);
         due("chip(MIN, MIN)", x.chip(MIN, MIN), 0);
-        SpreadRows y = Kit.told("walsh a 1 0; walsh b 2 2; walsh c 2 3; walsh d 3 5; reg e 2 1 1; reg f 4 3 8; bits g 13 4097; both h f f 5;");
+        SpreadRows y = told("walsh a 1 0; walsh b 2 2; walsh c 2 3; walsh d 3 5; reg e 2 1 1; reg f 4 3 8; bits g 13 4097; both h f f 5;");
         String[] more = {"++", "++--", "+--+", "+-+--+-+", "-+-", "+++-++--+-+----", "-+++++++++++-", null};
-        for (int c = 0; c < 7; c++) Kit.due("chips of " + c, signs(y, c), more[c]);
+        for (int c = 0; c < 7; c++) due("chips of " + c, signs(y, c), more[c]);
         // a row times itself shifted
-        Kit.due("chips of 7", signs(y, 7), "+----+++-++--+-");
+        due("chips of 7", signs(y, 7), "+----+++-++--+-");
     }
 
     private static void promise8() {
-        SpreadRows x = Kit.told(CODES);
+        SpreadRows x = told(CODES);
         rowDue("alike 0 1", "2 2 -2 -2 -1000", s -> x.alike(0, 1, s));
         rowDue("alike 1 0", "2 -2 -2 2 -1000", s -> x.alike(1, 0, s));
         rowDue("alike 3 3", "7 -1 -1 -1 -1 -1 -1 -1000", s -> x.alike(3, 3, s));
@@ -440,14 +401,14 @@ public final class PromisesTest {
     }
 
     private static void promise9() {
-        SpreadRows x = Kit.told(CODES);
+        SpreadRows x = told(CODES);
         rowDue("worst of each with itself", "0 4 4 1 0 0 1 0 -1", c -> x.worst(c, c));
         rowDue("worst of 0 with each", "0 2 2 -1 4 -1 -1 4 -1", c -> x.worst(0, c));
         due("worst(7, 0)", x.worst(7, 0), 4);
         due("worst(-1, 0)", x.worst(-1, 0), -1);
         due("worst(0, MIN)", x.worst(0, MIN), -1);
         // another one with the same chips is not itself
-        SpreadRows y = Kit.told("bits a 5 7; bits b 5 7; bits c 1 0; bits d 1 1; bits e 2 1;");
+        SpreadRows y = told("bits a 5 7; bits b 5 7; bits c 1 0; bits d 1 1; bits e 2 1;");
         due("worst(4, 4)", y.worst(4, 4), 2);
         due("worst(0, 0)", y.worst(0, 0), 3);
         due("worst(0, 1)", y.worst(0, 1), 5);
@@ -456,7 +417,7 @@ public final class PromisesTest {
     }
 
     private static void promise10() {
-        SpreadRows x = Kit.told(CODES);
+        SpreadRows x = told(CODES);
         due("times(0, 1, 2)", x.times(0, 1, 2), 2);
         due("times(0, 1, -2)", x.times(0, 1, -2), 2);
         due("times(0, 1, 0)", x.times(0, 1, 0), 0);
@@ -472,18 +433,18 @@ public final class PromisesTest {
     }
 
     private static void promise11() {
-        SpreadRows x = Kit.told(CODES);
+        SpreadRows x = told(CODES);
         rowDue("depths", "4 3 2 3 4 0 3 4 -1", x::depth);
         due("depth(-1)", x.depth(-1), -1);
         due("depth(MAX)", x.depth(MAX), -1);
-        SpreadRows y = Kit.told("bits a 5 31; bits b 5 0; bits c 13 1; bits d 6 9; reg e 7 3 1; reg f 7 9 1; both g e f 0; walsh h 6 63;");
+        SpreadRows y = told("bits a 5 31; bits b 5 0; bits c 13 1; bits d 6 9; reg e 7 3 1; reg f 7 9 1; both g e f 0; walsh h 6 63;");
         rowDue("depths", "1 0 13 3 7 7 14 33", y::depth);
-        SpreadRows z = Kit.told("reg a 7 1 1; reg b 7 1 2;");
+        SpreadRows z = told("reg a 7 1 1; reg b 7 1 2;");
         rowDue("depths", "127 126", z::depth);
     }
 
     private static void promise12() {
-        SpreadRows x = Kit.told("bits a 4 1; bits b 4 3; walsh h 2 1; reg m 3 3 1; both c a b 1;");
+        SpreadRows x = told("bits a 4 1; bits b 4 3; walsh h 2 1; reg m 3 3 1; both c a b 1;");
         rowDue("how many", "1 1 1 1 4 4", t -> x.family(t, 0));
         rowDue("which", "1 1 1 1 23 23", t -> x.family(t, 1));
         due("family(MAX, 1)", x.family(MAX, 1), 23);
@@ -492,12 +453,12 @@ public final class PromisesTest {
         due("family(0, 2)", x.family(0, 2), -1);
         due("family(0, -1)", x.family(0, -1), -1);
         // none is little enough alike with itself
-        SpreadRows y = Kit.told("bits a 5 31; bits b 5 0;");
+        SpreadRows y = told("bits a 5 31; bits b 5 0;");
         due("family(4, 0)", y.family(4, 0), 0);
         due("family(4, 1)", y.family(4, 1), 0);
         due("family(5, 1)", y.family(5, 1), 3);
         // of as many ones the least bits; only with those of one LENGTH
-        SpreadRows z = Kit.told("bits a 5 31; reg b 5 5 1; reg c 5 29 1; reg d 5 30 1; reg e 5 18 1; bits f 5 0; bits g 1 0; reg h 5 5 2;");
+        SpreadRows z = told("bits a 5 31; reg b 5 5 1; reg c 5 29 1; reg d 5 30 1; reg e 5 18 1; bits f 5 0; bits g 1 0; reg h 5 5 2;");
         int[][] due = {{0, 64}, {1, 2}, {4, 2}, {5, 33}, {8, 33}, {9, 6}, {26, 6}, {27, 14}, {30, 14}, {31, 158}};
         for (int[] one : due) {
             due("family(" + one[0] + ", 1)", z.family(one[0], 1), one[1]);
@@ -508,29 +469,29 @@ public final class PromisesTest {
     // ---- what comes in
 
     private static void promise13() {
-        SpreadRows x = Kit.told(PLAIN);
+        SpreadRows x = told(PLAIN);
         rowDue("re", "0 -3 3 3 3 3 -3 -3 -3 -3 3 3 3 -3 3 3 3 -3 3 3 3 -3 3 3 3 -3 3 3 3 -3 3 3 -1000000", i -> x.sample(i, false));
         rowDue("im", "0 0 0 0 0 0 0 0 0 0 0 0 0 0 0 0 0 0 0 0 0 0 0 0 0 0 0 0 0 0 0 0 -1000000", i -> x.sample(i, true));
         due("sample(-1, false)", x.sample(-1, false), -1000000);
         due("sample(MAX, true)", x.sample(MAX, true), -1000000);
         due("sample(MIN, true)", x.sample(MIN, true), -1000000);
-        SpreadRows y = Kit.told(FULL);
+        SpreadRows y = told(FULL);
         rowDue("re", "-2 2 3 6 1 -3 6 3 -1 4 0 0 0 0 0 0 2 -2 -3 -1 -1 3 -1 -3 -1000000", i -> y.sample(i, false));
         rowDue("im", "0 0 0 0 0 0 0 0 2 2 -3 1 3 1 1 -3 -1 1 0 0 0 0 0 0 -1000000", i -> y.sample(i, true));
         // TONE 3 goes the other way round, TONE 2 to and fro
-        SpreadRows t = Kit.told("bits a 1 0; samples 40; send s a 5 0 3 0;");
+        SpreadRows t = told("bits a 1 0; samples 40; send s a 5 0 3 0;");
         rowDue("re", "5 0 -5 0 5", i -> t.sample(8 * i, false));
         rowDue("im", "0 -5 0 5 0", i -> t.sample(8 * i, true));
         rowDue("im", "0 -5 0 5 0", i -> t.sample(8 * i + (i < 4 ? 7 : 0), true));
-        SpreadRows six = Kit.told("bits a 1 0; samples 16; send s a 1 0 0 0; echo s 1 2; echo s 2 4; echo s 3 8; echo s 4 - 16; echo s 5 32; echo s 6 64;");
+        SpreadRows six = told("bits a 1 0; samples 16; send s a 1 0 0 0; echo s 1 2; echo s 2 4; echo s 3 8; echo s 4 - 16; echo s 5 32; echo s 6 64;");
         rowDue("six echoes", "1 3 7 15 -1 31 95 95", i -> six.sample(i, false));
         // DATA comes again with PERIOD 14
-        SpreadRows d = Kit.told("bits a 1 0; samples 40; send s a 1 0 2 8193;");
+        SpreadRows d = told("bits a 1 0; samples 40; send s a 1 0 2 8193;");
         rowDue("re", "-1 1 1 1 1 1 1 1 -1 -1 -1 -1 -1 1 1 -1 1 1 1 1 1 1 1 1 -1 -1 -1 1 1 -1", i -> d.sample(i, false));
     }
 
     private static void promise14() {
-        SpreadRows x = Kit.told(FULL);
+        SpreadRows x = told(FULL);
         due("power(0, 23)", x.power(0, 23), 203);
         due("power(0, 0)", x.power(0, 0), 4);
         due("power(8, 9)", x.power(8, 9), 1 + 4 + 16 + 4);
@@ -540,13 +501,13 @@ public final class PromisesTest {
         due("power(24, 24)", x.power(24, 24), -1);
         due("power(MIN, MAX)", x.power(MIN, MAX), -1);
         // more than an int holds
-        SpreadRows y = Kit.told("bits a 1 0; samples 512; send s a 99 0 0 0;");
+        SpreadRows y = told("bits a 1 0; samples 512; send s a 99 0 0 0;");
         for (int i = 0; i < 11; i++) y.add(0, 9);
         due("power(0, 511)", y.power(0, 511), 512L * 9900 * 9900);
     }
 
     private static void promise15() {
-        SpreadRows x = Kit.told(FULL + "send t a 7 3 2 8191;");
+        SpreadRows x = told(FULL + "send t a 7 3 2 8191;");
         rowDue("wave re", "-2 2 2 2 2 -2 2 2 0 0 0 0 0 0 0 0 2 -2 -2 -2 -2 2 -2 -2 -1000000", i -> x.wave(0, i, false));
         rowDue("wave im", "0 0 0 0 0 0 0 0 2 2 -2 2 2 2 2 -2 0 0 0 0 0 0 0 0 -1000000", i -> x.wave(0, i, true));
         rowDue("wave 1", "0 0 0 7 -7 -7 -7 7 7 7 7 -7", i -> x.wave(1, i, false));
@@ -560,7 +521,7 @@ public final class PromisesTest {
     }
 
     private static void promise16() {
-        SpreadRows x = Kit.told(FULL);
+        SpreadRows x = told(FULL);
         due("add(0, 9)", x.add(0, 9), true);
         rowDue("re", "-20 20 30 15", i -> x.sample(i, false));
         due("add(0, -9)", x.add(0, -9), true);
@@ -592,13 +553,13 @@ public final class PromisesTest {
         due("power", x.power(0, 255), power);
         due("count(8)", x.count(8), 0);
         // told, the last one only
-        SpreadRows y = Kit.told("noise 50 9; noise 3 0;");
+        SpreadRows y = told("noise 50 9; noise 3 0;");
         rowDue("re", "-2 -1 -2 -1 -3 -1 -3 2", i -> y.sample(i, false));
         rowDue("im", "1 2 1 -2 0 -3 0 -3", i -> y.sample(i, true));
     }
 
     private static void promise18() {
-        SpreadRows x = Kit.told(FULL + "noise 9 9;");
+        SpreadRows x = told(FULL + "noise 9 9;");
         long power = x.power(0, 23);
         int first = x.sample(0, true);
         x.add(0, 4);
@@ -616,17 +577,17 @@ public final class PromisesTest {
     // ---- the search
 
     private static void promise19() {
-        SpreadRows x = Kit.told("bits a 4 1; samples 32; send s a 3 0 1 0;");
+        SpreadRows x = told("bits a 4 1; samples 32; send s a 3 0 1 0;");
         // re, im of each TONE, where the WAVE lies at re, im, re times -1, im times -1
-        Kit.due("sums at 0", sums(x, 0, 0), "12 0 12 0 12 0 12 0");
-        Kit.due("sums at 8", sums(x, 0, 8), "0 12 12 0 0 -12 -12 0");
-        Kit.due("sums at 16", sums(x, 0, 16), "-12 0 12 0 -12 0 12 0");
-        Kit.due("sums at 24", sums(x, 0, 24), "0 -12 12 0 0 12 -12 0");
+        due("sums at 0", sums(x, 0, 0), "12 0 12 0 12 0 12 0");
+        due("sums at 8", sums(x, 0, 8), "0 12 12 0 0 -12 -12 0");
+        due("sums at 16", sums(x, 0, 16), "-12 0 12 0 -12 0 12 0");
+        due("sums at 24", sums(x, 0, 24), "0 -12 12 0 0 12 -12 0");
         // half of it from the next eight, a delay, and beyond the last sample
-        Kit.due("sums at 6", sums(x, 2, 6), "6 6 12 0 6 -6 0 0");
-        Kit.due("sums at 1", sums(x, 3, 1), "12 0 12 0 12 0 12 0");
-        Kit.due("sums at 1", sums(x, 1, 1), "0 0 0 0 0 0 0 0");
-        Kit.due("sums at 31", sums(x, 1, 31), "0 -3 3 0 0 3 -3 0");
+        due("sums at 6", sums(x, 2, 6), "6 6 12 0 6 -6 0 0");
+        due("sums at 1", sums(x, 3, 1), "12 0 12 0 12 0 12 0");
+        due("sums at 1", sums(x, 1, 1), "0 0 0 0 0 0 0 0");
+        due("sums at 31", sums(x, 1, 31), "0 -3 3 0 0 3 -3 0");
         due("sum(1, 0, 0, 0, false)", x.sum(1, 0, 0, 0, false), -1000000000);
         due("sum(-1, 0, 0, 0, false)", x.sum(-1, 0, 0, 0, false), -1000000000);
         due("sum(0, 4, 0, 0, false)", x.sum(0, 4, 0, 0, false), -1000000000);
@@ -643,7 +604,7 @@ public final class PromisesTest {
     }
 
     private static void promise20() {
-        SpreadRows x = Kit.told("bits a 4 1; samples 32; send s a 3 0 1 0;");
+        SpreadRows x = told("bits a 4 1; samples 32; send s a 3 0 1 0;");
         rowDue("metrics", "144 144 144 144 0 0 0 0 0 0 0 0 0 0 0 0 -1", c -> (int) x.metric(0, c, 0, 1));
         rowDue("metrics", "72 144 72 0", t -> (int) x.metric(0, 8 + t, 6, 1));
         rowDue("more periods", "-1 144 288 432 576 720 864 1008 1152 1152 -1", m -> (int) x.metric(0, 0, 0, m));
@@ -654,13 +615,13 @@ public final class PromisesTest {
         due("metric(0, 0, -1, 1)", x.metric(0, 0, -1, 1), -1);
         due("metric(-1, MIN, 0, MIN)", x.metric(-1, MIN, 0, MIN), -1);
         due("metric(MAX, MAX, MAX, MAX)", x.metric(MAX, MAX, MAX, MAX), -1);
-        SpreadRows y = Kit.told("bits a 13 0; samples 512; send s a 99 0 0 0;");
+        SpreadRows y = told("bits a 13 0; samples 512; send s a 99 0 0 0;");
         for (int i = 0; i < 11; i++) y.add(0, 9);
         due("more than an int holds", y.metric(0, 0, 0, 9), 9L * (9900 * 13) * (9900 * 13));
     }
 
     private static void promise21() {
-        SpreadRows x = Kit.told("reg m 5 5 3; bits a 4 1; samples 200; send s m 7 9 2 5; jam 0 199 3 5;");
+        SpreadRows x = told("reg m 5 5 3; bits a 4 1; samples 200; send s m 7 9 2 5; jam 0 199 3 5;");
         due("best(0, 0, 1)", x.best(0, 0, 1), 4 * 9 + 2);
         due("best(0, 0, 9)", x.best(0, 0, 9), 4 * 9 + 2);
         due("best(0, 100, 3)", x.best(0, 100, 3), 4 * ((9 + 31 * 4 - 100) % 31) + 2);
@@ -671,14 +632,14 @@ public final class PromisesTest {
         due("best(0, -1, 1)", x.best(0, -1, 1), -1);
         due("best(0, 0, 0)", x.best(0, 0, 0), -1);
         due("best(0, 0, 10)", x.best(0, 0, 10), -1);
-        SpreadRows o = Kit.told("reg m 7 3 1; samples 512; send s m 7 126 1 0;");
+        SpreadRows o = told("reg m 7 3 1; samples 512; send s m 7 126 1 0;");
         due("best, a long row", o.best(0, 1, 2), 4 * 125 + 1);
-        due("best, the second cell", Kit.told("reg m 7 3 1; samples 512; send s m 7 0 1 0;").best(0, 0, 2), 1);
-        due("best of nothing", Kit.told("bits a 4 1;").best(0, 0, 1), 0);
+        due("best, the second cell", told("reg m 7 3 1; samples 512; send s m 7 0 1 0;").best(0, 0, 2), 1);
+        due("best of nothing", told("bits a 4 1;").best(0, 0, 1), 0);
     }
 
     private static void promise22() {
-        SpreadRows y = Kit.told("reg m 5 5 3; samples 200; send s m 7 0 0 0; send t m 5 2 0 0; send u m 4 28 0 0; send v m 2 3 1 0;");
+        SpreadRows y = told("reg m 5 5 3; samples 200; send s m 7 0 0 0; send t m 5 2 0 0; send u m 4 28 0 0; send v m 2 3 1 0;");
         due("best(0, 31, 3)", y.best(0, 31, 3), 0);
         // delay 28 of 31 is 3 off 0 the other way round
         rowDue("second by gap", "8 8 112 65 65", gap -> y.second(0, 31, 3, gap));
@@ -689,22 +650,22 @@ public final class PromisesTest {
         due("second(0, 200, ..)", y.second(0, 200, 3, 0), -1);
         due("second(.., 10, 0)", y.second(0, 0, 10, 0), -1);
         due("second(.., MIN, MAX)", y.second(MIN, MAX, MIN, MAX), -1);
-        SpreadRows first = Kit.told("reg m 7 3 1; samples 512; send s m 7 0 1 0; send t m 4 0 0 0;");
+        SpreadRows first = told("reg m 7 3 1; samples 512; send s m 7 0 1 0; send t m 4 0 0 0;");
         due("second, the first cell", first.second(0, 0, 3, 0), 0);
         // of nothing: the least that is not the best one
-        SpreadRows z = Kit.told("bits a 4 1; bits b 1 0;");
+        SpreadRows z = told("bits a 4 1; bits b 1 0;");
         due("second of nothing", z.second(0, 0, 1, 0), 1);
         due("second of one chip", z.second(1, 0, 1, 60), 1);
     }
 
     private static void promise23() {
-        SpreadRows x = Kit.told("reg m 5 5 3; samples 200; send s m 7 0 0 0; send t m 5 2 0 0; send u m 4 28 0 0;");
+        SpreadRows x = told("reg m 5 5 3; samples 200; send s m 7 0 0 0; send t m 5 2 0 0; send u m 4 28 0 0;");
         rowDue("peaks", "0 2 28", i -> x.peak(0, 0, 31, 3, i));
         // of alike ones the least delay first
-        SpreadRows y = Kit.told("bits a 4 1; samples 24; send s a 3 2 0 0; send t a 1 0 0 0;");
+        SpreadRows y = told("bits a 4 1; samples 24; send s a 3 2 0 0; send t a 1 0 0 0;");
         rowDue("peaks", "2 0 1 3 -1", i -> y.peak(0, 0, 4, 1, i));
         rowDue("peaks of another TONE", "2 0 1 3 -1", i -> y.peak(0, 2, 8, 1, i));
-        rowDue("peaks of nothing", "0 1 2 3 -1", i -> Kit.told("bits a 4 1;").peak(0, 3, 0, 1, i));
+        rowDue("peaks of nothing", "0 1 2 3 -1", i -> told("bits a 4 1;").peak(0, 3, 0, 1, i));
         due("peak(0, 4, 0, 1, 0)", y.peak(0, 4, 0, 1, 0), -1);
         due("peak(0, -1, 0, 1, 0)", y.peak(0, -1, 0, 1, 0), -1);
         due("peak(0, 0, 24, 1, 0)", y.peak(0, 0, 24, 1, 0), -1);
@@ -715,7 +676,7 @@ public final class PromisesTest {
     }
 
     private static void promise24() {
-        SpreadRows x = Kit.told("bits a 4 1; samples 32; send s a 3 0 1 0;");
+        SpreadRows x = told("bits a 4 1; samples 32; send s a 3 0 1 0;");
         due("alarms", x.alarms(0, 0, 1, 144), 4);
         due("alarms", x.alarms(0, 0, 1, 145), 0);
         due("alarms", x.alarms(0, 0, 1, 1), 4);
@@ -729,16 +690,16 @@ public final class PromisesTest {
         due("alarms, w 32", x.alarms(0, 32, 1, 0), -1);
         due("alarms, m 0", x.alarms(0, 0, 0, 0), -1);
         due("alarms, m 10", x.alarms(0, 0, 10, 0), -1);
-        due("more than an int", Kit.told("bits a 4 1;").alarms(0, 0, 1, 1L << 32), 0);
+        due("more than an int", told("bits a 4 1;").alarms(0, 0, 1, 1L << 32), 0);
     }
 
     private static void promise25() {
         // CELLS 4, 5, 6, 7 have it
-        SpreadRows x = Kit.told("bits a 4 1; samples 32; send s a 3 1 1 0;");
+        SpreadRows x = told("bits a 4 1; samples 32; send s a 3 1 1 0;");
         rowDue("looks from each", "5 4 3 2 1 1 1 1 13 12 11 10 9 8 7 6 -1", c -> x.plan(0, 0, 1, c, 1, 81));
         rowDue("looks by steps of", "-1 5 3 3 2 2 2 2 -2 5 3 3 4 4 6 10 -2 -1", s -> x.plan(0, 0, 1, 0, s, 81));
         due("none has it", x.plan(0, 0, 1, 0, 1, 82), -2);
-        SpreadRows last = Kit.told("reg m 5 5 3; samples 200; send s m 7 0 0 0;");
+        SpreadRows last = told("reg m 5 5 3; samples 200; send s m 7 0 0 0;");
         due("the last one has it", last.plan(0, 0, 3, 1, 1, 3 * 217 * 217), 124);
         due("all but it", last.plan(0, 0, 3, 0, 1, 3 * 217 * 217), 1);
         due("all have it", x.plan(0, 0, 1, 15, 16, Long.MIN_VALUE), 1);
@@ -781,7 +742,7 @@ public final class PromisesTest {
     // ---- what is read
 
     private static void promise28() {
-        SpreadRows x = Kit.told(PLAIN);
+        SpreadRows x = told(PLAIN);
         rowDue("bits", "0 1 0 0 0 0 0 0 -2 -2", p -> x.bit(0, p));
         due("bit(0, -1)", x.bit(0, -1), -1);
         due("bit(0, MAX)", x.bit(0, MAX), -2);
@@ -795,19 +756,19 @@ public final class PromisesTest {
         rowDue("bits turned", "1 0 1 1 1 1 1 1 -2", p -> x.bit(0, p));
         // every TONE is read as its WAVE lies
         for (int tone = 0; tone < 4; tone++) {
-            SpreadRows y = Kit.told("reg m 3 3 1; samples 100; send s m 1 2 " + tone + " 5461;");
+            SpreadRows y = told("reg m 3 3 1; samples 100; send s m 1 2 " + tone + " 5461;");
             rowDue("bits of tone " + tone, "1 0 1 0 1 0 1 0 1 0 1 0 1 0 -2", p -> y.bit(0, p));
         }
         // the other axis is not looked at; begun PERIODS are read by what there is of them
-        SpreadRows z = Kit.told("bits a 13 0; samples 16; send s a 1 2 0 2; jam 15 15 9 1;");
+        SpreadRows z = told("bits a 13 0; samples 16; send s a 1 2 0 2; jam 15 15 9 1;");
         rowDue("bits", "0 0 -2", p -> z.bit(0, p));
-        SpreadRows late = Kit.told("reg m 7 3 1; samples 16; send s m 1 16 0 1; send t m 1 15 0 1;");
+        SpreadRows late = told("reg m 7 3 1; samples 16; send s m 1 16 0 1; send t m 1 15 0 1;");
         rowDue("bits before the DELAY", "-2 -2", p -> late.bit(0, p));
         rowDue("bits of one sample", "1 -2", p -> late.bit(1, p));
     }
 
     private static void promise29() {
-        SpreadRows x = Kit.told(PLAIN);
+        SpreadRows x = told(PLAIN);
         due("wrong(0)", x.wrong(0), 0);
         due("wrong(1)", x.wrong(1), -1);
         due("wrong(-1)", x.wrong(-1), -1);
@@ -817,30 +778,30 @@ public final class PromisesTest {
         x.add(0, -1);
         due("wrong of all", x.wrong(0), 8);
         // DATA comes again with PERIOD 14
-        SpreadRows y = Kit.told("bits a 1 0; samples 100; send s a 1 0 3 9999;");
+        SpreadRows y = told("bits a 1 0; samples 100; send s a 1 0 3 9999;");
         due("wrong of 100", y.wrong(0), 0);
         y.add(0, -1);
         due("wrong of nothing", y.wrong(0), 58);
-        SpreadRows two = Kit.told(TWO);
+        SpreadRows two = told(TWO);
         due("wrong of the strong one", two.wrong(0), 0);
         due("wrong of the weak one", two.wrong(1), 1);
     }
 
     private static void promise30() {
         // the ECHO alone tells more than the WAVE, which a JAM turns
-        SpreadRows x = Kit.told("bits a 4 0; samples 32; send s a 2 0 0 0; echo s 16 9; jam 4 4 99 1;");
+        SpreadRows x = told("bits a 4 0; samples 32; send s a 2 0 0 0; echo s 16 9; jam 4 4 99 1;");
         x.add(0, -2);
         rowDue("bits", "1 0 1 1 1 1 1 1 -2", p -> x.bit(0, p));
         rowDue("joined", "1 1 1 1 1 1 1 1 -2", p -> x.joined(0, p));
         // each by its own AMPLITUDE
-        SpreadRows loud = Kit.told("bits a 4 0; samples 32; send s a 9 0 0 0; echo s 16 1; send t a 1 0 0 1; jam 16 19 5 1;");
+        SpreadRows loud = told("bits a 4 0; samples 32; send s a 9 0 0 0; echo s 16 1; send t a 1 0 0 1; jam 16 19 5 1;");
         loud.add(0, -1);
         rowDue("joined by AMPLITUDES", "1 0 0 0 0 0 0 0 -2", p -> loud.joined(0, p));
         loud.anew();
         loud.add(0, -1);
         loud.add(1, -1);
         rowDue("joined", "0 0 0 0 0 0 0 0 -2", p -> loud.joined(0, p));
-        SpreadRows least = Kit.told("bits a 1 0; samples 16; send s a 1 0 0 1;");
+        SpreadRows least = told("bits a 1 0; samples 16; send s a 1 0 0 1;");
         rowDue("joined of one sample", "1 0", p -> least.joined(0, p));
         due("joined(0, -1)", x.joined(0, -1), -1);
         due("joined(1, 0)", x.joined(1, 0), -1);
@@ -848,13 +809,13 @@ public final class PromisesTest {
         due("joined(1, 77)", x.joined(1, 77), -1);
         due("joined(0, MAX)", x.joined(0, MAX), -2);
         // minus ECHOES, a turn on the way: signed as the WAVE was
-        SpreadRows y = Kit.told("bits a 4 3; samples 48; send s a 1 0 1 2730; echo s 5 - 3; echo s 9 2; noise 9 5;");
-        Kit.due("joined", row(13, p -> y.joined(0, p)), "0 1 0 1 1 0 0 1 0 1 0 1 -2");
-        Kit.due("bits", row(13, p -> y.bit(0, p)), "0 1 0 1 0 0 0 1 1 1 1 1 -2");
+        SpreadRows y = told("bits a 4 3; samples 48; send s a 1 0 1 2730; echo s 5 - 3; echo s 9 2; noise 9 5;");
+        due("joined", row(13, p -> y.joined(0, p)), "0 1 0 1 1 0 0 1 0 1 0 1 -2");
+        due("bits", row(13, p -> y.bit(0, p)), "0 1 0 1 0 0 0 1 1 1 1 1 -2");
     }
 
     private static void promise31() {
-        SpreadRows x = Kit.told("bits a 4 1; samples 60; send s a 3 1 0 2730;");
+        SpreadRows x = told("bits a 4 1; samples 60; send s a 3 1 0 2730;");
         // READ: 0 1 0 1 0 1 0 1 0 1 0 1 0 0 0
         due("frame(0, 0, 1)", x.frame(0, 0, 1), 0);
         due("frame(0, 1, 1)", x.frame(0, 1, 1), 1);
@@ -879,13 +840,13 @@ public final class PromisesTest {
         due("frame(-1, 3, 2)", x.frame(-1, 3, 2), -1);
         due("frame(0, MAX, MAX)", x.frame(0, MAX, MAX), -1);
         due("frame(0, 0, MIN)", x.frame(0, 0, MIN), -1);
-        SpreadRows late = Kit.told("reg m 7 3 1; samples 16; send s m 1 16 0 1;");
+        SpreadRows late = told("reg m 7 3 1; samples 16; send s m 1 16 0 1;");
         due("frame of nothing", late.frame(0, 0, 1), -2);
     }
 
     private static void promise32() {
         // all CHIPS are -1: each PERIOD's sum is 12, a pulse of 4 times 4 turns it
-        SpreadRows x = Kit.told("bits a 4 15; samples 16; send s a 3 0 0 0;");
+        SpreadRows x = told("bits a 4 15; samples 16; send s a 3 0 0 0;");
         int[][] dues = {{4, 4, 0, 1}, {4, 3, 0, 0}, {5, 4, 0, 1}, {8, 4, 0, 2}, {9, 4, 0, 2}, {12, 4, 0, 3}, {16, 4, 0, 4}, {99, 99, 0, 4}, {1, 12, 0, 0},
             {1, 13, 0, 1}, {2, 13, 3, 2}, {6, 13, 3, 3}, {10, 13, 3, 4}, {7, 7, 0, 2}, {8, 7, 2, 3}, {99, 1, 0, 0}};
         for (int[] d : dues) {
@@ -894,7 +855,7 @@ public final class PromisesTest {
         }
         due("power stays", x.power(0, 15), 16 * 9);
         // only the last PERIOD is weak, only a whole pulse is enough for it
-        SpreadRows weak = Kit.told("bits a 4 15; samples 16; send s a 3 0 0 0; jam 12 15 2 1;");
+        SpreadRows weak = told("bits a 4 15; samples 16; send s a 3 0 0 0; jam 12 15 2 1;");
         due("hurt of a weak one", weak.hurt(0, 2, 3, 0), 12);
         due("hurt of a weak one", weak.hurt(0, 2, 3, 1), 1);
         due("hurt(0, 0, ..)", x.hurt(0, 0, 4, 0), -1);
@@ -907,31 +868,31 @@ public final class PromisesTest {
         due("hurt(-1, ..)", x.hurt(-1, 4, 4, 0), -1);
         due("hurt of far ones", x.hurt(MAX, MIN, MAX, MIN), -1);
         // re alone: where the WAVE lies at im no pulse hurts it; a helping one mends
-        SpreadRows y = Kit.told("bits a 4 15; samples 32; send s a 3 0 1 0;");
+        SpreadRows y = told("bits a 4 15; samples 32; send s a 3 0 1 0;");
         due("hurt at re times -1", y.hurt(0, 99, 99, 0), 0);
         due("hurt how many", y.hurt(0, 99, 99, 1), 2);
-        SpreadRows z = Kit.told("bits a 8 255; samples 32; send s a 3 0 2 15;");
+        SpreadRows z = told("bits a 8 255; samples 32; send s a 3 0 2 15;");
         due("hurt behind turns", z.hurt(0, 8, 99, 0), 1);
         due("hurt how many", z.hurt(0, 8, 99, 1), 1);
-        due("hurt of what is hurt", Kit.told("bits a 4 15; samples 16; send s a 3 0 0 0; jam 8 8 99 1;").hurt(0, 4, 4, 1), 2);
-        SpreadRows late = Kit.told("reg m 7 3 1; samples 16; send s m 1 16 0 1;");
+        due("hurt of what is hurt", told("bits a 4 15; samples 16; send s a 3 0 0 0; jam 8 8 99 1;").hurt(0, 4, 4, 1), 2);
+        SpreadRows late = told("reg m 7 3 1; samples 16; send s m 1 16 0 1;");
         due("hurt of nothing", late.hurt(0, 9, 9, 0), 0);
         due("hurt of nothing", late.hurt(0, 9, 9, 1), 0);
     }
 
     private static void promise33() {
-        SpreadRows x = Kit.told(TWO);
+        SpreadRows x = told(TWO);
         rowDue("at once", "-1 1 0 0 0 0 0 -1", x::atOnce);
         due("atOnce(-1)", x.atOnce(-1), -1);
         due("atOnce(MAX)", x.atOnce(MAX), -1);
         due("power stays", x.power(0, 15), 1504);
-        SpreadRows y = Kit.told(THREE);
+        SpreadRows y = told(THREE);
         rowDue("at once", "-1 4 3 1 1 1 1 -1", y::atOnce);
         due("no senders", new SpreadRows().atOnce(6), 0);
     }
 
     private static void promise34() {
-        SpreadRows x = Kit.told(TWO);
+        SpreadRows x = told(TWO);
         due("taken(0, 0)", x.taken(0, 0), 0);
         due("taken(0, 99)", x.taken(0, 99), 0);
         due("power stays", x.power(0, 15), 1504);
@@ -943,18 +904,18 @@ public final class PromisesTest {
         x.add(0, -2);
         due("taken(0, 0) behind", x.taken(0, 0), 4);
         // a sum of 0 is taken out as a 0
-        SpreadRows none = Kit.told(TWO);
+        SpreadRows none = told(TWO);
         none.add(0, -1);
         none.add(1, -1);
         due("taken(0, 0) of nothing", none.taken(0, 0), 3);
-        SpreadRows y = Kit.told("bits a 4 1; send s a 5 0 0 0; send t a 9 1 0 0; send u a 5 2 0 0; send v a 9 3 0 0; send w a 1 0 0 0; send x a 6 0 0 0;");
+        SpreadRows y = told("bits a 4 1; send s a 5 0 0 0; send t a 9 1 0 0; send u a 5 2 0 0; send v a 9 3 0 0; send w a 1 0 0 0; send x a 6 0 0 0;");
         rowDue("order", "1 3 5 0 2 4 -1", i -> y.taken(1, i));
-        SpreadRows z = Kit.told(THREE);
+        SpreadRows z = told(THREE);
         due("taken(0, 0) of three", z.taken(0, 0), 4);
     }
 
     private static void promise35() {
-        SpreadRows x = Kit.told(TWO);
+        SpreadRows x = told(TWO);
         rowDue("rest", "1504 64 0 -1", n -> (int) x.rest(n));
         due("rest(-1)", x.rest(-1), -1);
         due("rest(MAX)", x.rest(MAX), -1);
@@ -963,18 +924,18 @@ public final class PromisesTest {
         x.add(0, -2);
         rowDue("rest behind", "1216 64 0 -1", n -> (int) x.rest(n));
         // with ECHOES, but not the JAM
-        SpreadRows y = Kit.told(FULL);
+        SpreadRows y = told(FULL);
         rowDue("rest", "203 75 -1", n -> (int) y.rest(n));
         due("rest of nothing", new SpreadRows().rest(0), 0);
         due("rest of nothing", new SpreadRows().rest(1), -1);
-        SpreadRows z = Kit.told(THREE);
+        SpreadRows z = told(THREE);
         rowDue("rest of three", "6748 4741 2300 1564 -1", n -> (int) z.rest(n));
     }
 
     // ---- loops, ranges
 
     private static void promise36() {
-        SpreadRows x = Kit.told("bits a 13 7989; samples 500; send s a 5 6 0 0 drift 2;");
+        SpreadRows x = told("bits a 13 7989; samples 500; send s a 5 6 0 0 drift 2;");
         rowDue("loops from 6", "6 6 6 7 7 8 8 9 9 10 10 11 11 12 12 0 0 1 1 2 2 3 3 4 4 5 5 6 6 7 7 8 8 9 9 10 10 11 11 12 12", m -> x.loop(0, 6, 0, 0, m));
         rowDue("loops from 12", "12 11 11 11 11 11 11 11 11 10 10 11 11 12 12 0 0 1 1 2 2 3 3 4 4 5 5 6 6 7 7 8 8 9 9 10 10 11 11 12 12", m -> x.loop(0, 12, 0, 0, m));
         due("loop(.., 41)", x.loop(0, 6, 0, 0, 41), -1);
@@ -990,21 +951,21 @@ public final class PromisesTest {
         due("loop(-1, ..)", x.loop(-1, 0, 0, 0, 0), -1);
         due("loop of far ones", x.loop(MAX, MIN, MAX, MIN, MAX), -1);
         // up over the end of the row, down under its begin
-        SpreadRows y = Kit.told("bits a 4 1; samples 64; send s a 3 0 0 0;");
+        SpreadRows y = told("bits a 4 1; samples 64; send s a 3 0 0 0;");
         rowDue("up", "3 0 0", m -> y.loop(0, 3, 0, 4, m));
         rowDue("down", "1 0 0", m -> y.loop(0, 1, 0, 4, m));
         rowDue("stays", "2 2 2", m -> y.loop(0, 2, 0, 4, m));
-        SpreadRows level = Kit.told("reg m 5 5 1; samples 200; send s m 5 5 0 0; send t m 5 6 0 0;");
+        SpreadRows level = told("reg m 5 5 1; samples 200; send s m 5 5 0 0; send t m 5 6 0 0;");
         rowDue("alike ones", "5 5 5", m -> level.loop(0, 5, 0, 31, m));
         rowDue("alike ones", "6 6 6", m -> level.loop(0, 6, 0, 31, m));
-        SpreadRows z = Kit.told("bits a 4 1; samples 64; send s a 3 3 1 0; bits b 1 0; bits c 2 1;");
+        SpreadRows z = told("bits a 4 1; samples 64; send s a 3 3 1 0; bits b 1 0; bits c 2 1;");
         rowDue("down under", "0 3 3", m -> z.loop(0, 0, 1, 8, m));
         rowDue("one chip", "0 0 0", m -> z.loop(1, 0, 1, 8, m));
         rowDue("two chips", "1 1 1", m -> z.loop(2, 1, 0, 0, m));
     }
 
     private static void promise37() {
-        SpreadRows x = Kit.told("reg m 5 5 1; samples 512; send s m 5 6 1 0; send t m 9 6 2 0 drift 1; send u m 9 20 3 0 drift 3;");
+        SpreadRows x = told("reg m 5 5 1; samples 512; send s m 5 6 1 0; send t m 9 6 2 0 drift 1; send u m 9 20 3 0 drift 3;");
         for (int s = 0; s < 3; s++) {
             int till = s == 0 ? 40 : s == 1 ? 17 : 20;
             for (int m = 0; m <= 40; m++) due("follows(" + s + ", " + m + ")", x.follows(s, m), m <= till ? 1 : 0);
@@ -1012,7 +973,7 @@ public final class PromisesTest {
             due("follows(.., -1)", x.follows(s, -1), -1);
         }
         // the loop goes with the other one, from the first PERIOD on
-        SpreadRows lost = Kit.told("reg m 5 5 1; samples 200; send s m 1 5 0 0; send t m 9 6 0 0 drift 1;");
+        SpreadRows lost = told("reg m 5 5 1; samples 200; send s m 1 5 0 0; send t m 9 6 0 0 drift 1;");
         rowDue("follows a stronger one", "1 1 0 0", m -> lost.follows(0, m));
         due("follows(3, 0)", x.follows(3, 0), -1);
         due("follows(-1, 0)", x.follows(-1, 0), -1);
@@ -1020,7 +981,7 @@ public final class PromisesTest {
     }
 
     private static void promise38() {
-        SpreadRows x = Kit.told("bits a 4 1; reg b 3 3 1; reg c 4 3 1; bits d 6 1; bits e 1 0; reg f 7 3 1; reg g 6 3 1; bits h 13 0;");
+        SpreadRows x = told("bits a 4 1; reg b 3 3 1; reg c 4 3 1; bits d 6 1; bits e 1 0; reg f 7 3 1; reg g 6 3 1; bits h 13 0;");
         due("range of one", x.range(0, 3, -1, 0, -1, 0), 3);
         due("range of one", x.range(0, 3, -1, MIN, -1, MAX), 3);
         due("range of two", x.range(0, 1, 1, 2, -1, 99), 9);
@@ -1051,7 +1012,7 @@ public final class PromisesTest {
     }
 
     private static void promise39() {
-        SpreadRows x = Kit.told("bits a 4 1; reg b 3 3 1; bits c 6 0; reg d 7 3 1; reg e 6 3 1;");
+        SpreadRows x = told("bits a 4 1; reg b 3 3 1; bits c 6 0; reg d 7 3 1; reg e 6 3 1;");
         rowDue("near", "0 1 1 1 1 1 1 1 1 9 9", most -> x.near(0, 1, 1, 2, most));
         rowDue("near of one", "0 0 0 3 3", most -> x.near(0, 3, -1, MIN, most));
         due("near of the same", x.near(0, 1, 0, 3, 100), 0);
@@ -1071,7 +1032,7 @@ public final class PromisesTest {
     // ---- hops
 
     private static void promise40() {
-        SpreadRows x = Kit.told(HOPS);
+        SpreadRows x = told(HOPS);
         rowDue("hop 0", "0 3 3 0 4 0 3 3 0 4", i -> x.hop(0, i));
         rowDue("hop 1", "0 2 3 3 2 0", i -> x.hop(1, i));
         rowDue("hop 2", "0 1 4 2 2 4 1 0 1", i -> x.hop(2, i));
@@ -1083,11 +1044,11 @@ public final class PromisesTest {
         due("hop(0, MIN)", x.hop(0, MIN), -1);
         due("hop(5, 0)", x.hop(5, 0), -1);
         due("hop(-1, 0)", x.hop(-1, 0), -1);
-        due("a hop as long as can be", Kit.told("hop h 31 30 30;").hop(0, 29), (30 * 29 * 29 + 30 * 29) % 31);
+        due("a hop as long as can be", told("hop h 31 30 30;").hop(0, 29), (30 * 29 * 29 + 30 * 29) % 31);
     }
 
     private static void promise41() {
-        SpreadRows x = Kit.told(HOPS);
+        SpreadRows x = told(HOPS);
         rowDue("hits 0 1", "2 2 2 0 0 -1", s -> x.hits(0, 1, s));
         rowDue("hits 0 0", "5 1 1 1 1 -1", s -> x.hits(0, 0, s));
         rowDue("hits 4 4", "2 2 -1", s -> x.hits(4, 4, s));
@@ -1099,7 +1060,7 @@ public final class PromisesTest {
     }
 
     private static void promise42() {
-        SpreadRows x = Kit.told(HOPS + "hop y 5 1 2;");
+        SpreadRows x = told(HOPS + "hop y 5 1 2;");
         rowDue("worst hits of 0", "1 2 -1 -1 -1 5 -1", o -> x.worstHits(0, o));
         rowDue("worst hits of each with itself", "1 1 1 0 2 1 -1", o -> x.worstHits(o, o));
         due("worstHits(-1, 0)", x.worstHits(-1, 0), -1);
@@ -1107,7 +1068,7 @@ public final class PromisesTest {
     }
 
     private static void promise43() {
-        SpreadRows x = Kit.told(HOPS);
+        SpreadRows x = told(HOPS);
         rowDue("crowded from 0 on", "1 1 2 2 2 3", b -> x.crowded(3, 0, b));
         due("crowded(3, 1, 4)", x.crowded(3, 1, 4), 1);
         due("crowded(3, 0, 999)", x.crowded(3, 0, 999), 400);
@@ -1126,7 +1087,7 @@ public final class PromisesTest {
     }
 
     private static void promise44() {
-        SpreadRows x = Kit.told(HOPS);
+        SpreadRows x = told(HOPS);
         rowDue("jammed, one CHANNEL each", "2 0 0 2 1 0 0 0", c -> x.jammed(0, 1 << c));
         due("jammed(0, 0)", x.jammed(0, 0), 0);
         due("jammed(0, 25)", x.jammed(0, 25), 5);
@@ -1139,7 +1100,7 @@ public final class PromisesTest {
     }
 
     private static void promise45() {
-        SpreadRows x = Kit.told(HOPS);
+        SpreadRows x = told(HOPS);
         rowDue("strongest of 0", "0 1 9 25 27 31 -1", k -> x.strongest(0, k));
         rowDue("strongest of 1", "0 4 12 13 15 31 -1", k -> x.strongest(1, k));
         rowDue("strongest of 2", "0 2 6 22 23 31 63 127 -1", k -> x.strongest(2, k));
@@ -1156,7 +1117,7 @@ public final class PromisesTest {
     // ---- what is kept
 
     private static void promise46() {
-        SpreadRows x = Kit.told(FULL);
+        SpreadRows x = told(FULL);
         due("hold(0)", x.hold(0), true);
         due("hold(2)", x.hold(2), true);
         due("hold(2)", x.hold(2), true);
@@ -1180,7 +1141,7 @@ public final class PromisesTest {
     }
 
     private static void promise47() {
-        SpreadRows x = Kit.told(FULL);
+        SpreadRows x = told(FULL);
         due("restore(1)", x.restore(1), false);
         x.hold(1);
         x.add(0, 3);
@@ -1195,23 +1156,23 @@ public final class PromisesTest {
         x.add(0, 3);
         due("restore(1)", x.restore(1), true);
         due("power", x.power(0, 23), 203);
-        due("read", Kit.read(x, "oh"), 1);
+        due("read", read(x, "oh"), 1);
         due("restore(1)", x.restore(1), true);
-        due("read", Kit.read(x, FULL), 0);
+        due("read", read(x, FULL), 0);
         due("restore(1)", x.restore(1), false);
         due("count(7)", x.count(7), 0);
     }
 
     private static void promise48() {
-        SpreadRows x = Kit.told(CODES + HOPS + FULL.replace("bits a 4 1;", "") + "send late m 1 6 0 0; send slow m 1 0 0 0 drift 99; noise 7 7; noise 8 8;");
-        Kit.write(x, "tail");
+        SpreadRows x = told(CODES + HOPS + FULL.replace("bits a 4 1;", "") + "send late m 1 6 0 0; send slow m 1 0 0 0 drift 99; noise 7 7; noise 8 8;");
+        write(x, "tail");
         x.hold(0);
         x.noise(50, 1);
         rowDue("count", "8 5 3 1 1 24 4 1 8 -1 5 3 4 -1 -1 -1 -1 -1 -1 -1 5 5 7 31 2 -1 -1", x::count);
         due("count(-1)", x.count(-1), -1);
         due("count(MIN)", x.count(MIN), -1);
         due("count(MAX)", x.count(MAX), -1);
-        SpreadRows y = Kit.told("reg m 7 3 1; bits o 1 0; samples 16; send s m 1 16 0 0; send t m 1 15 0 0; send u o 1 0 0 0; send v o 1 0 0 0 drift 1; send w o 1 0 0 0 drift 2;");
+        SpreadRows y = told("reg m 7 3 1; bits o 1 0; samples 16; send s m 1 16 0 0; send t m 1 15 0 0; send u o 1 0 0 0; send v o 1 0 0 0 drift 1; send w o 1 0 0 0 drift 2;");
         rowDue("periods", "0 1 16 1 9 -1", s -> y.count(10 + s));
     }
 }
