@@ -12,6 +12,7 @@ final class FollowEdges extends Kit {
     static void all() {
         loopRoundTheEnds();
         loopGreaterThanBoth();
+        loopGoesOn();
         loopPeriods();
         noSuchLoop();
         followsByOne();
@@ -88,6 +89,17 @@ final class FollowEdges extends Kit {
         rowDue("one CHIP", "0 0 0", m -> few.loop(0, 0, 0, 0, m));
         rowDue("two CHIPS", "0 0 0", m -> few.loop(1, 0, 0, 2, m));
         rowDue("two CHIPS", "1 1 1", m -> few.loop(1, 1, 0, 2, m));
+    }
+
+    private static void loopGoesOn() {
+        sentence("36", "1 less (a rest by LENGTH); w is LENGTH more.");
+        // -+++ over two samples of 7, the first ones of a PERIOD: delays 2 and 3 have a METRIC
+        SpreadRows x = told("bits a 4 1; samples 16; jam 8 9 7 1;");
+        rowDue("metrics", "0 0 196 196", d -> (int) x.metric(0, 4 * d, 8, 1));
+        rowDue("up in the third PERIOD", "1 1 1 2 2 2", m -> x.loop(0, 1, 0, 0, m));
+        rowDue("down in the third PERIOD", "0 0 0 3 3 3", m -> x.loop(0, 0, 0, 0, m));
+        rowDue("in the second one", "0 0 3 3", m -> x.loop(0, 0, 0, 4, m));
+        rowDue("not one of both", "0 0 0 0 0 0", m -> x.loop(0, 0, 0, 1, m));
     }
 
     private static void loopPeriods() {
@@ -234,7 +246,8 @@ final class FollowEdges extends Kit {
         due("1 by 4, 2 by 6", x.near(0, 1, 2, 2, 100), 1);
         rowDue("one alone", "0 0 0 3 3 3", most -> x.near(0, 3, -1, MIN, most));
         due("1 off 126 by 127 either way", x.near(4, 126, -1, 0, 125), 0);
-        due("2 off 125 by 127, and 1", x.near(4, 125, -1, 0, 123) * 1000 + x.near(4, 125, -1, 0, 124), 124);
+        due("2 off 125 by 127 either way", x.near(4, 125, -1, 0, 123), 0);
+        due("1 off 125 by 127", x.near(4, 125, -1, 0, 124), 124);
         due("one CHIP", x.near(3, 0, 3, 0, 20000), 0);
     }
 

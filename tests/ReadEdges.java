@@ -35,6 +35,7 @@ final class ReadEdges extends Kit {
         hurtLeavesIt();
         noSuchHurt();
         takenByAmplitude();
+        takenInTurn();
         takenWithTheseBits();
         takenStays();
         noSuchTaken();
@@ -92,7 +93,6 @@ final class ReadEdges extends Kit {
         rowDue("as it came", data, p -> x.bit(0, p));
         x.add(0, -2);
         rowDue("as it came turned", data.replace('1', 'x').replace('0', '1').replace('x', '0'), p -> x.bit(0, p));
-        x.noise(0, 0);
         x.add(0, 1);
         rowDue("nothing", "0 0 0 0 0 0 0 0 0 0", p -> x.bit(0, p));
     }
@@ -153,24 +153,21 @@ final class ReadEdges extends Kit {
     // ---- JOINED
 
     private static void joinedAmplitudes() {
-        sentence("30", "of READ's times the SENDER's AMPLITUDE, and, over these samples and each ECHO, of what came in that many samples later (if that is a sample), turned and signed as the WAVE was, times the ECHO's AMPLITUDE.");
+        sentence("30", "of READ's times the SENDER's AMPLITUDE, and, over these samples and each ECHO, of what came in that many samples later"
+            + " (if that is a sample), turned and signed as the WAVE was, times the ECHO's AMPLITUDE.");
         // 3 at a CHIP of -1 times 2, and jam times -1 times -3: below 0 till jam is 2
         for (int jam = 1; jam <= 3; jam++) {
             SpreadRows x = told("bits a 1 1; samples 16; send s a 2 0 0 0; echo s 4 - 3; jam 0 0 3 1; jam 4 4 " + jam + " 1;");
             x.add(0, -1);
             due("joined, a sum of " + (3 * jam - 6), x.joined(0, 0), jam == 1 ? 1 : 0);
         }
-        // two ECHOES: 1 * 1 less 5 * 2 and 9 * 1
-        for (int jam = 9; jam <= 11; jam++) {
+        // two ECHOES: 1, less 2 times 5, and jam more: below 0 till jam is 9
+        for (int jam = 8; jam <= 10; jam++) {
             SpreadRows x = told("bits a 1 0; samples 16; send s a 1 0 0 0; echo s 4 - 2; echo s 5 1; jam 0 0 1 1; jam 4 4 5 1; jam 5 5 " + jam + " 1;");
             x.add(0, -1);
-            due("joined, a sum of " + (jam - 9), x.joined(0, 0), 0);
-            x.noise(0, 1);
+            due("joined, a sum of " + (jam - 9), x.joined(0, 0), jam == 8 ? 1 : 0);
             due("READ alone", x.bit(0, 0), 0);
         }
-        SpreadRows y = told("bits a 1 0; samples 16; send s a 1 0 0 0; echo s 4 - 2; echo s 5 1; jam 0 0 1 1; jam 4 4 5 1; jam 5 5 8 1;");
-        y.add(0, -1);
-        due("joined, a sum of -1", y.joined(0, 0), 1);
     }
 
     private static void joinedAsTheWaveWas() {
@@ -209,12 +206,12 @@ final class ReadEdges extends Kit {
         rowDue("without ECHOES as READ", "1 0 1 0 -2", p -> x.joined(0, p));
         x.add(0, -1);
         rowDue("sums of 0", "0 0 0 0 -2", p -> x.joined(0, p));
-        // more than an int holds: some 99 * 99 * 2700 * 512
-        SpreadRows y = told("bits a 13 8191; samples 512; send s a 99 0 0 0; echo s 1 99; echo s 2 99; echo s 3 99; echo s 4 99; echo s 5 99; echo s 6 99;");
-        for (int i = 0; i < 280; i++) y.add(0, 9);
-        due("joined of much", y.joined(0, 5), 0);
-        for (int i = 0; i < 3; i++) y.add(0, -9);
-        due("joined of much", y.joined(0, 38), 0);
+        // one sample, as loud as it can get in 512 calls, is more than an int holds
+        SpreadRows y = new SpreadRows();
+        read(y, "bits a 1 0; samples 16; send s a 99 0 0 0; echo s 1 99; echo s 2 99; echo s 3 99; echo s 4 99; echo s 5 99; echo s 6 99;");
+        for (int i = 0; i < 498; i++) y.add(0, 9);
+        due("a loud sample", 7L * 99 * y.sample(6, false) > MAX, true);
+        due("joined of a loud one", y.joined(0, 6), 0);
     }
 
     private static void noSuchJoined() {
@@ -354,6 +351,10 @@ final class ReadEdges extends Kit {
         x.hurt(0, 99, 99, 0);
         due("what comes in stays", x.power(0, 15), power);
         due("wrong behind", x.wrong(0), 1);
+        // wherever it begins it mends one of 16: none begins behind the last sample
+        SpreadRows mended = told("bits a 1 0; samples 16; send s a 1 0 0 0;");
+        mended.add(0, -2);
+        hurtDue(mended, 1, 9, 0, 15);
         due("none at all", told(LATE).hurt(0, 9, 9, 0), 0);
         due("none at all", told(LATE).hurt(0, 9, 9, 1), 0);
     }
@@ -377,6 +378,18 @@ final class ReadEdges extends Kit {
         rowDue("the last first", "2 1 0 -1", i -> up.taken(1, i));
     }
 
+    private static void takenInTurn() {
+        sentence("34", "each in turn: all its PERIODS are READ from what is left");
+        SpreadRows x = told(TWO);
+        due("the weak one as it comes in", x.wrong(1), 1);
+        due("behind the strong one", x.taken(0, 0), 0);
+        // two alike: the first by number goes first, with 0s, and leaves the other one turned
+        SpreadRows y = told("bits a 4 0; samples 16; send s a 3 0 0 0; send t a 3 0 0 15;");
+        due("the first goes with 0s", y.taken(0, 0), 0);
+        SpreadRows z = told("bits a 4 0; samples 16; send s a 3 0 0 15; send t a 3 0 0 0;");
+        due("though it sent 1s", z.taken(0, 0), 8);
+    }
+
     private static void takenWithTheseBits() {
         sentence("34 35", "then its WAVE, with these bits instead of DATA, and its ECHOES likewise, are taken away from what is left.");
         SpreadRows x = told(TWO);
@@ -391,6 +404,14 @@ final class ReadEdges extends Kit {
         none.add(0, -1);
         rowDue("rest", "0 144 -1", n -> (int) none.rest(n));
         due("four are wrong", none.taken(0, 0), 4);
+        // the weak one's PERIODS are what went away: three of its four bits are 0
+        SpreadRows nothing = told(TWO);
+        nothing.add(0, -1);
+        nothing.add(1, -1);
+        due("three are wrong", nothing.taken(0, 0), 3);
+        // a sum of -1 goes as a 1, a sum of 1 as a 0
+        SpreadRows least = told("bits a 1 0; samples 16; send s a 1 0 2 9999;");
+        rowDue("rest", "16 0 -1", n -> (int) least.rest(n));
         // ECHOES over the PERIOD's end with the bit of their own PERIOD; a JAM stays
         SpreadRows y = told("bits a 4 1; samples 24; send s a 9 0 1 10; echo s 3 - 2; echo s 7 1; jam 20 23 1 1;");
         due("with ECHOES", y.rest(1), 4);
@@ -457,6 +478,17 @@ final class ReadEdges extends Kit {
         // the ECHO of another one, that turns PERIOD 0, goes in round 2
         SpreadRows other = told("bits a 4 0; bits b 4 5; samples 16; send s a 1 0 0 0; send t b 9 0 0 0; echo t 1 8; jam 0 0 1 1;");
         rowDue("by rounds", "-1 1 0 0 0 0 0 -1", other::atOnce);
+        // the strong one sent 1s: by them the weak one is READ in round 2
+        SpreadRows ones = told("bits a 4 8; bits b 4 0; samples 16; send s a 9 0 0 15; send w b 2 0 0 1;");
+        rowDue("by rounds", "-1 3 0 0 0 0 0 -1", ones::atOnce);
+        // three that take some rounds: 9 hides 4, 4 hides 1
+        SpreadRows chain = told("bits a 4 8; bits b 4 0; bits c 4 1; samples 16; send s a 9 0 0 6; send t b 4 0 0 9; send u c 1 0 0 5;");
+        rowDue("by rounds", "-1 5 2 0 0 0 0 -1", chain::atOnce);
+        // sums of 0 go as 0s
+        SpreadRows nothing = told(TWO);
+        nothing.add(0, -1);
+        nothing.add(1, -1);
+        rowDue("by rounds of nothing", "-1 1 7 1 7 1 7 -1", nothing::atOnce);
         // two that turn one another from round to round: 4 and 3 of one row, sent with unlike bits
         SpreadRows y = told("bits a 4 0; samples 16; send s a 4 0 0 0; send t a 3 0 0 15;");
         rowDue("by rounds", "-1 4 4 4 4 4 4 -1", y::atOnce);

@@ -26,6 +26,7 @@ final class SearchEdges extends Kit {
         gaps();
         eitherWayRound();
         anotherTone();
+        loudOnes();
         noSuchSecond();
         theLeastDelay();
         noSuchPeak();
@@ -37,10 +38,13 @@ final class SearchEdges extends Kit {
         noSuchPlan();
         meanBounds();
         meanLessened();
-        noSuchMean();
+        noSuchCells();
+        noSuchChances();
+        noSuchCosts();
         overWays();
         overLongWays();
         noSuchOver();
+        atMost512Calls();
     }
 
     private static String sums(SpreadRows x, int d, int w) {
@@ -130,9 +134,12 @@ final class SearchEdges extends Kit {
         rowDue("of 13", "169 89 9 89", t -> (int) x.metric(1, t, 0, 1));
         // 3 at im times -1, 8 at re times -1, 2 at im: 64 and 1 more of TONE 1; of TONE 2 3 less 8 more 2
         rowDue("of 26", "338 154 18 154", t -> (int) x.metric(1, t, 0, 2));
-        SpreadRows loud = told("bits a 13 0; samples 512; send s a 99 0 0 0;");
+        // more than an int holds, at re and at im
+        SpreadRows loud = told("bits a 8 0; samples 512; send s a 99 0 0 0; send t a 99 0 1 0;");
         for (int i = 0; i < 30; i++) loud.add(0, 9);
-        due("more than an int holds", loud.metric(0, 0, 0, 9), 9L * (99 * 271 * 13) * (99 * 271 * 13));
+        due("at re", loud.metric(0, 0, 40, 1), 8L * 99 * 271 * (8L * 99 * 271) + 8L * 99 * (8L * 99));
+        for (int i = 0; i < 50; i++) loud.add(1, 9);
+        due("at im", loud.metric(0, 0, 40, 1), 8L * 99 * 271 * (8L * 99 * 271) + 8L * 99 * 451 * (8L * 99 * 451));
     }
 
     private static void noSuchMetric() {
@@ -234,6 +241,23 @@ final class SearchEdges extends Kit {
         SpreadRows z = told("reg m 7 3 1; samples 512; send s m 7 0 1 0; send t m 4 0 0 0;");
         due("best", z.best(0, 0, 3), 1);
         due("the TONE below", z.second(0, 0, 3, 60), 0);
+    }
+
+    private static void loudOnes() {
+        sentence("21 22 23 24 25 36", "the CELL of the greatest METRIC");
+        // METRICS beyond what an int holds, a little more each time; the third and last SENDER beside the first one
+        SpreadRows x = told("reg m 5 5 1; samples 512; send s m 99 10 0 0; send t m 90 20 0 0; send u m 80 11 0 0;");
+        for (int i = 0; i < 30; i++) {
+            for (int s = 0; s < 3; s++) x.add(s, 9);
+            due("best", x.best(0, 31, 9), 40);
+            due("second", x.second(0, 31, 9, 1), 80);
+            due("first peak", x.peak(0, 0, 31, 9, 0), 10);
+            due("third peak", x.peak(0, 0, 31, 9, 2), 11);
+            due("loop", x.loop(0, 11, 0, 31, 1), 10);
+            due("loop", x.loop(0, 19, 0, 31, 1), 20);
+            due("alarms", x.alarms(0, 31, 9, x.metric(0, 44, 31, 9)), 3);
+            due("plan", x.plan(0, 31, 9, 41, 3, x.metric(0, 80, 31, 9)), 14);
+        }
     }
 
     private static void noSuchSecond() {
@@ -404,19 +428,36 @@ final class SearchEdges extends Kit {
         due("a whole number, below", x.mean(5, 2, 0, 2, 0, true), 1);
     }
 
-    private static void noSuchMean() {
+    private static void noSuchCells() {
         sentence("26", "MEAN of a search through q cells (2 .. 1000)");
         SpreadRows x = told("");
+        refused("mean(.., 1, 0, 1, 0), above", -1, q -> x.mean(q, 1, 0, 1, 0, false), 1, 0, -1, 1001, MIN, MAX);
+        refused("mean(.., 1, 0, 1, 0), below", -1, q -> x.mean(q, 1, 0, 1, 0, true), 1, 0, -1, 1001, MIN, MAX);
+        due("the least", x.mean(2, 1, 0, 1, 0, true), 2);
+        due("the most", x.mean(1000, 1, 0, 1, 0, false), 1001);
+    }
+
+    private static void noSuchChances() {
+        sentence("26", "(b 1 .. 100, a 1 .. b, f 0 .. b)");
+        SpreadRows x = told("");
         for (boolean below : new boolean[] {false, true}) {
-            refused("mean(.., 1, 0, 1, 0)", -1, q -> x.mean(q, 1, 0, 1, 0, below), 1, 0, -1, 1001, MIN, MAX);
             refused("mean(2, .., 0, 5, 0)", -1, a -> x.mean(2, a, 0, 5, 0, below), 0, -1, 6, 7, MIN, MAX);
             refused("mean(2, 1, .., 5, 0)", -1, f -> x.mean(2, 1, f, 5, 0, below), -1, 6, 7, MIN, MAX);
             refused("mean(2, 1, 0, .., 0)", -1, b -> x.mean(2, 1, 0, b, 0, below), 0, -1, 101, 102, MIN, MAX);
             refused("mean(2, .., 0, .., 0)", -1, b -> x.mean(2, b, 0, b, 0, below), 0, -1, 101, MIN, MAX);
-            refused("mean(2, 1, 0, 1, ..)", -1, k -> x.mean(2, 1, 0, 1, k, below), -1, 1001, MIN, MAX);
         }
-        due("the least", x.mean(2, 1, 0, 1, 0, true), 2);
-        due("the most", x.mean(1000, 100, 100, 100, 1000, true), 2);
+        due("the most, above", x.mean(2, 100, 100, 100, 0, false), 3);
+        due("the most, below", x.mean(2, 100, 100, 100, 0, true), 2);
+    }
+
+    private static void noSuchCosts() {
+        sentence("26", "which costs k more (0 .. 1000), then it goes on");
+        SpreadRows x = told("");
+        refused("mean(2, 1, 0, 1, ..), above", -1, k -> x.mean(2, 1, 0, 1, k, false), -1, 1001, MIN, MAX);
+        refused("mean(2, 1, 0, 1, ..), below", -1, k -> x.mean(2, 1, 0, 1, k, true), -1, 1001, MIN, MAX);
+        due("none", x.mean(2, 1, 1, 1, 0, false), 3);
+        due("the most", x.mean(2, 1, 1, 1, 1000, false), 1003);
+        due("no wrong one is told right", x.mean(2, 1, 0, 1, 1000, false), 3);
     }
 
     /** OVER by going through all b to the n ways. */
@@ -479,5 +520,25 @@ final class SearchEdges extends Kit {
         refused("over(3, 1, 1, .., 1)", -1, d -> x.over(3, 1, 1, d, 1), -1, 3, 4, MIN, MAX);
         refused("over(2, 1, 1, 0, ..)", -1, n -> x.over(2, 1, 1, 0, n), -1, 19, 20, MIN, MAX);
         due("the most", x.over(1000, 10, 10, 0, 18), 1000000000000000000L);
+    }
+
+    private static void atMost512Calls() {
+        sentence("13 14 19 20 28 30 35", "An object is used for at most 512 calls after it has been made");
+        // as loud as it can get till then: all CHIPS are -1, with six ECHOES
+        String text = "reg m 7 64 127; samples 512; send s m 99 0 0 0; echo s 1 99; echo s 2 99; echo s 3 99; echo s 4 99; echo s 5 99; echo s 6 99;";
+        int writing = (text.length() + 19) / 20 + 2, asking = 9;
+        SpreadRows x = new SpreadRows();
+        due("read", read(x, text), 0);
+        int adds = 512 - writing - asking;
+        for (int i = 0; i < adds; i++) x.add(0, 9);
+        long each = 99L * 7 * (1 + 9 * adds), all = 127 * each;
+        due("sample", x.sample(511, false), -each);
+        due("power", x.power(127, 511), 385 * each * each);
+        due("sum", x.sum(0, 0, 0, 127, false), all);
+        due("metric", x.metric(0, 0, 127, 3), 3 * all * all);
+        due("best", x.best(0, 127, 3), 0);
+        due("bit", x.bit(0, 2), 0);
+        due("joined", x.joined(0, 2), 0);
+        due("rest(0)", x.rest(0), x.power(0, 511));
     }
 }

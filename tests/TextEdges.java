@@ -23,6 +23,7 @@ final class TextEdges extends Kit {
         names();
         wordsAreNoNames();
         ints();
+        signs();
         longerOnes();
         tells();
         numbered();
@@ -156,6 +157,19 @@ final class TextEdges extends Kit {
         fault(1, "noise 1 ^;");
     }
 
+    private static void signs() {
+        sentence("4", "SIGNS ; - .");
+        for (int b = 33; b < 127; b++) {
+            boolean other = !Character.isLetterOrDigit(b) && b != ';' && b != '-';
+            if (other) fault(1, "bits a 4 1^" + sign(b));
+            if (other) fault(1, "bits c 4 1; send s c 1 0 0 0; echo s 1^" + sign(b) + "1;");
+        }
+        // each of them is one by itself
+        fault(1, "bits a 4 1;^;");
+        fault(1, "bits c 4 1; send s c 1 0 0 0; echo s 1-^-1;");
+        fine("bits c 4 1; send s c 1 0 0 0; echo s 1-1; echo s 1 -1; echo s 1- 1; echo s 1\n-\n1;");
+    }
+
     private static void longerOnes() {
         sentence("4", "A longer one, all else, is no TOKEN.");
         // where there is room for no TOKEN more, what is none is SYNTAX
@@ -178,7 +192,9 @@ final class TextEdges extends Kit {
     }
 
     private static void tells() {
-        sentence("4", "text: {TELL}.");
+        sentence("4", "text: {TELL}. TELL: 'reg' NAME INT INT INT ';' | 'walsh' NAME INT INT ';' | 'bits' NAME INT INT ';' | 'both' NAME NAME NAME INT ';' |"
+            + " 'hop' NAME INT INT INT ';' | 'send' NAME NAME INT INT INT INT ['drift' INT] ';' | 'echo' NAME INT ['-'] INT ';' | 'jam' INT INT INT INT ';' |"
+            + " 'noise' INT INT ';' | 'samples' INT ';'.");
         List<String> kinds = new ArrayList<>(List.of(WORDS));
         kinds.addAll(List.of("a", "1", ";", "-", "."));
         for (String tell : TELLS) {
@@ -233,7 +249,7 @@ final class TextEdges extends Kit {
         // 1000000, 1100000, 0110000, 0011000, .. : a 1 comes in, a second one, then an even number is 0 till the first goes out
         rowDue("chips", "1 1 1 1 1 1 -1 -1 1", i -> x.chip(5, i));
         // each seventh one
-        due("one of seven", x.code(6, 2) + 100 * x.code(6, 1), 127 + 100 * 18);
+        due("18 times 7 of 127", x.code(6, 1), 18);
         rowDue("chips", "1 1 1 1 1 1 -1 1 1 1 1 1 1 -1 1", i -> x.chip(6, i));
     }
 
