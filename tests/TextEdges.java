@@ -488,6 +488,7 @@ final class TextEdges extends Kit {
         String spread = "";
         for (char c = 'a'; c < 'g'; c++) spread += "echo s" + c + " 1 1;";
         fine(codes + senders + spread);
+        fine(codes + hops + senders + spread + jams);
         fault(2, codes + senders + spread + "^echo sa 1 1;");
         // samples and noises have room
         fine("samples 16;".repeat(60) + "noise 1 1;".repeat(50));
