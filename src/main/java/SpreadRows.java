@@ -625,6 +625,23 @@ public final class SpreadRows {
                 cells[i] = other.at(i);
             }
         }
+
+        /** The sum of the first n numbers, each times one of another row's first n, which go round from a place on. */
+        long timesRound(Row other, int place, int n) {
+            long[] own = cells;
+            long[] others = other.cells;
+            int round = Math.min(n, Math.min(own.length, others.length));
+            long total = 0;
+            int k = place;
+            for (int i = 0; i < round; i++) {
+                if (k < 0 || k >= round) {
+                    k = 0;
+                }
+                total += own[i] * others[k];
+                k++;
+            }
+            return total;
+        }
     }
 
     /** A CODE: its CHIPS, that come again and again. */
@@ -704,15 +721,14 @@ public final class SpreadRows {
             return n;
         }
 
+        /** The sum of a row's first LENGTH numbers, each times a CHIP, from CHIP first on. */
+        long along(Row row, int first) {
+            return row.timesRound(chips, first, length);
+        }
+
         /** ALIKE at a shift below the length. */
         int alikeness(Code other, int shift) {
-            int total = 0;
-            int j = shift;
-            for (int i = 0; i < length; i++) {
-                total += chipAt(i) * other.chipAt(j);
-                j = j + 1 < length ? j + 1 : 0;
-            }
-            return total;
+            return (int) other.along(chips, shift);
         }
 
         /** WORST; with itself the shift 0 does not count. */
@@ -1512,8 +1528,11 @@ public final class SpreadRows {
 
         /** The set of the FAMILY: any set all of whose members are friends, each of itself too. */
         int familyOf(Told told, int t) {
+            friends.clear();
             for (int i = 0; i < told.codeCount; i++) {
-                friends.put(i, friendsOf(told, i, t));
+                for (int j = 0; j <= i; j++) {
+                    befriend(told, i, j, t);
+                }
             }
             int found = 0;
             for (int set = 1; set < 1 << Math.min(told.codeCount, CODES_MOST); set++) {
@@ -1524,16 +1543,14 @@ public final class SpreadRows {
             return found;
         }
 
-        private static int friendsOf(Told told, int code, int t) {
-            Code row = told.codeAt(code);
-            int set = 0;
-            for (int i = 0; i < told.codeCount; i++) {
-                Code other = told.codeAt(i);
-                if (likeLong(row, other) && row.worstLikeness(other, i == code) <= t) {
-                    set |= 1 << i;
-                }
+        /** WORST is the same either way round, so each is the other one's friend. */
+        private void befriend(Told told, int one, int other, int t) {
+            Code row = told.codeAt(one);
+            Code second = told.codeAt(other);
+            if (likeLong(row, second) && row.worstLikeness(second, one == other) <= t) {
+                friends.put(one, friends.at(one) | 1L << other);
+                friends.put(other, friends.at(other) | 1L << one);
             }
-            return set;
         }
 
         private boolean areFriends(int set) {
@@ -1594,7 +1611,7 @@ public final class SpreadRows {
 
         long sumOf(Code code, int d, int t, Signal signal, int w, int axis) {
             turnBack(code.length, t, signal, w);
-            return correlation(axis == 0 ? turnedRe : turnedIm, code, d);
+            return code.along(axis == 0 ? turnedRe : turnedIm, code.length - d);
         }
 
         long metricOf(Code code, int cell, Signal signal, int w, int m) {
@@ -1611,7 +1628,8 @@ public final class SpreadRows {
             length = code.length;
             metrics.clear();
             for (int t = 0; t < TONES; t++) {
-                for (int j = 0; j < m; j++) {
+                // PERIODS behind the last sample have nothing to add
+                for (int j = 0; j < m && w + j * length < signal.samples; j++) {
                     turnBack(length, t, signal, w + j * length);
                     for (int d = 0; d < length; d++) {
                         metrics.increase(TONES * d + t, squares(code, d));
@@ -1633,19 +1651,9 @@ public final class SpreadRows {
         }
 
         private long squares(Code code, int d) {
-            long re = correlation(turnedRe, code, d);
-            long im = correlation(turnedIm, code, d);
+            long re = code.along(turnedRe, code.length - d);
+            long im = code.along(turnedIm, code.length - d);
             return re * re + im * im;
-        }
-
-        private static long correlation(Row turned, Code code, int d) {
-            long total = 0;
-            int i = d == 0 ? 0 : code.length - d;
-            for (int k = 0; k < code.length; k++) {
-                total += turned.at(k) * code.chipAt(i);
-                i = i + 1 < code.length ? i + 1 : 0;
-            }
-            return total;
         }
 
         int greatestCell() {
