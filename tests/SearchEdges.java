@@ -16,6 +16,7 @@ final class SearchEdges extends Kit {
         chipsRoundTheEnd();
         turnedBack();
         beyondTheLastOne();
+        acrossTheLastOne();
         noSuchSum();
         periodsOfMetric();
         bothNumbers();
@@ -102,6 +103,33 @@ final class SearchEdges extends Kit {
         SpreadRows y = told("bits a 13 0; samples 512; jam 0 511 1 1;");
         rowDue("sums of 512", "13 13 12 11", i -> y.sum(0, 0, 0, 498 + i, false));
         due("the last of 512", y.sum(0, 0, 0, 511, false), 1);
+    }
+
+    /** The last PERIODS, that have some samples, one or none of their own, count in all that looks at each CELL. */
+    private static void acrossTheLastOne() {
+        sentence("20 21 22 23 24 25", "from w + j * LENGTH on.");
+        // of the second PERIOD from 12 on just the first sample is there
+        SpreadRows x = told("bits a 4 1; samples 17; jam 16 16 5 1;");
+        for (int m : new int[] {2, 3, 9}) {
+            due("of 25, over " + m, x.alarms(0, 12, m, 25), 16);
+            due("of 26, over " + m, x.alarms(0, 12, m, 26), 0);
+            due("the last CELL, over " + m, x.metric(0, 15, 12, m), 25);
+            due("looked at, over " + m, x.plan(0, 12, m, 0, 1, 25), 1);
+        }
+        due("ahead of it", x.alarms(0, 12, 1, 1), 0);
+        for (int m : new int[] {1, 2, 9}) due("begun at it, over " + m, x.alarms(0, 16, m, 25), 16);
+        // of the second PERIOD from 11 on just the first two are there
+        SpreadRows y = told("bits a 4 1; samples 17; jam 15 16 5 1;");
+        for (int m : new int[] {2, 3, 9}) {
+            rowDue("METRICS over " + m, "0 50 100 50 0 50 100 50 100 50 0 50 100 50 0 50", cell -> (int) y.metric(0, cell, 11, m));
+            due("BEST over " + m, y.best(0, 11, m), 2);
+            rowDue("SECOND over " + m, "6 8 8", gap -> y.second(0, 11, m, gap));
+            rowDue("PEAKS over " + m, "2 3 0 1", i -> y.peak(0, 0, 11, m, i));
+            rowDue("ALARMS over " + m, "16 12 4 0", i -> y.alarms(0, 11, m, new int[] {0, 50, 51, 101}[i]));
+            due("PLAN over " + m, y.plan(0, 11, m, 0, 4, 100), 3);
+        }
+        due("BEST over one", y.best(0, 11, 1), 0);
+        due("ALARMS over one", y.alarms(0, 11, 1, 1), 0);
     }
 
     private static void noSuchSum() {
